@@ -20,7 +20,7 @@ public final class CutStore {
     private static final int MOST_PRICE = 100;
     private static final int FIRST_SUPER = 1001;
     private static final int MOST_SUPERS = 200;
-    // Above all bytes of all FILES, so that neither table below is ever full.
+    // More slots than all FILES have bytes, so that neither table is ever full.
     private static final int SLOT_BITS = 13;
     private static final int SLOTS = 1 << SLOT_BITS;
 
@@ -666,21 +666,39 @@ public final class CutStore {
         /** The number of a piece with these bytes, old or new; NONE when there is no room. */
         private int share(int start, int length) {
             int print = printOf(start, length);
-            int free = NONE;
-            for (int p = 1; p <= MOST_PIECES; p++) {
-                if (holds[p] == 0) {
-                    free = free == NONE ? p : free;
-                } else if (prints[p] == print && lengths[p] == length) {
-                    if (areAlike(bytes, starts[p], files.bytes, start, length)) {
-                        return p;
-                    }
-                    meetings++;
+            int p = findAlike(print, start, length);
+            if (p == NONE) {
+                p = leastFree();
+                if (p != NONE) {
+                    addPiece(p, print, start, length);
                 }
             }
-            if (free != NONE) {
-                addPiece(free, print, start, length);
+            return p;
+        }
+
+        private int findAlike(int print, int start, int length) {
+            int seen = 0;
+            for (int p = 1; p <= MOST_PIECES && seen < pieces; p++) {
+                if (holds[p] > 0) {
+                    seen++;
+                    if (prints[p] == print && lengths[p] == length) {
+                        if (areAlike(bytes, starts[p], files.bytes, start, length)) {
+                            return p;
+                        }
+                        meetings++;
+                    }
+                }
             }
-            return free;
+            return NONE;
+        }
+
+        private int leastFree() {
+            for (int p = 1; p <= MOST_PIECES; p++) {
+                if (holds[p] == 0) {
+                    return p;
+                }
+            }
+            return NONE;
         }
 
         private int printOf(int start, int length) {

@@ -132,7 +132,7 @@ public final class FilesTest {
     x.sow(1, 199, 3, 256);
     put(x, "XY");
     Due.same("601 bytes", x.edit(1, 599, 0), -2);
-    Due.same("601 bytes with one gone", x.edit(1, 0, 0), -2);
+    Due.same("601 bytes, at the beginning", x.edit(1, 0, 0), -2);
     Due.same("a wrong place comes first", x.edit(1, 600, 0), -1);
     Due.same("too many gone comes first", x.edit(1, 599, 1), -1);
     Due.same("still 599", x.at(1, 598) != -1 && x.at(1, 599) == -1 ? 1 : 0, 1);
