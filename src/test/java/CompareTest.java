@@ -2,140 +2,275 @@
 public final class CompareTest {
   private static final int MIN = Integer.MIN_VALUE;
   private static final int MAX = Integer.MAX_VALUE;
+  private static final int[] NO_RULES = {-1, 0, 6, 256, MIN, MAX};
+  private static final int[] NO_FILES = {-1, 8, 256, MIN, MAX};
 
-  public static void main(String[] args) {
-    agree();
-    sent();
-    wrongInputs();
-    cost();
-    costOfMany();
-    best();
-    Due.close();
+  public static void main(String[] args) throws IllegalAccessException {
+    Due.run(CompareTest.class);
   }
 
-  private static void agree() {
-    CutStore x = new CutStore();
+  @Sentence("Promise 14: From the end of two FILES backwards: how many PIECES by a RULE they have alike, one by one")
+  static void agree() {
+    Used x = new Used();
     x.told(0, 1, 200, ',');
+    x.file(0, "aa,bb,cc,dd");
+    x.file(1, "x,bb,cc,dd");
+    Due.same(x.agree(0, 0, 1), 3);
+    Due.same(x.agree(0, 1, 0), 3);
+    x.file(2, "aa,bb,cc,d");
+    Due.same(x.agree(0, 0, 2), 0);
+    x.file(3, "aa,bX,cc,dd");
+    Due.same(x.agree(0, 0, 3), 2);
+    x.file(4, "d,cc,dd");
+    x.file(5, "dd,cc,dd");
+    Due.same(x.agree(0, 4, 5), 2);
     x.fixed(1, 2);
-    Due.file(x, 0, "aa,bb,cc,dd");
-    Due.file(x, 1, "x,bb,cc,dd");
-    Due.same("three at the end", x.agree(0, 0, 1), 3);
-    Due.same("the other way round", x.agree(0, 1, 0), 3);
-    Due.file(x, 2, "aa,bb,cc,d");
-    Due.same("the last one differs", x.agree(0, 0, 2), 0);
-    Due.file(x, 3, "aa,bX,cc,dd");
-    Due.same("not beyond the first that differs", x.agree(0, 0, 3), 2);
-    Due.file(x, 4, "cc,dd");
-    Due.same("all of the shorter one", x.agree(0, 0, 4), 2);
-    Due.same("with itself", x.agree(0, 0, 0), 4);
-    Due.same("with an empty one", x.agree(0, 0, 7), 0);
-    Due.same("two empty ones", x.agree(0, 6, 7), 0);
-    Due.file(x, 5, "Xaa,bb,cc,dd");
-    Due.same("FIXED, moved by one", x.agree(1, 0, 5), 0);
-    Due.same("TOLD, moved by one", x.agree(0, 0, 5), 3);
-    Due.file(x, 4, "d,cc,dd");
-    Due.file(x, 5, "dd,cc,dd");
-    Due.same("as long as the shorter piece is not enough", x.agree(0, 4, 5), 2);
+    Due.same(x.agree(1, 0, 1), 0);
   }
 
-  private static void sent() {
-    CutStore x = new CutStore();
+  @Sentence("Promise 14: how many PIECES by a RULE they have alike (all of one of them)")
+  static void agreeAll() {
+    Used x = new Used();
     x.told(0, 1, 200, ',');
-    Due.file(x, 0, "a,b,c,");
-    Due.file(x, 1, "a,xx,b,xx,yyy,c");
-    Due.same("each new one once", x.sent(0, 0, 1), 3 + 4 + 1);
-    Due.same("the other way round", x.sent(0, 1, 0), 2);
-    Due.same("to itself", x.sent(0, 1, 1), 0);
-    Due.same("from an empty one", x.sent(0, 7, 1), 2 + 3 + 2 + 4 + 1);
-    Due.same("to an empty one", x.sent(0, 1, 7), 0);
+    x.file(0, "aa,bb,cc,dd");
+    x.file(7, "cc,dd");
+    Due.same(x.agree(0, 0, 7), 2);
+    Due.same(x.agree(0, 7, 0), 2);
+    Due.same(x.agree(0, 0, 0), 4);
+    x.copy(0, 7);
+    Due.same(x.agree(0, 0, 7), 4);
     x.fixed(1, 1);
-    Due.file(x, 2, "abcabcabc");
-    Due.file(x, 3, "cbdd");
-    Due.same("single bytes", x.sent(1, 2, 3), 1);
-    Due.same("single bytes back", x.sent(1, 3, 2), 1);
+    x.fullFile(1);
+    x.copy(1, 2);
+    Due.same(x.agree(1, 1, 2), 600);
+    x.tape("?");
+    x.edit(2, 1, 1);
+    Due.same(x.agree(1, 1, 2), 598);
   }
 
-  private static void wrongInputs() {
-    CutStore x = new CutStore();
+  @Sentence("Promise 14: how many PIECES by a RULE they have alike (of FILES without bytes)")
+  static void agreeEmpty() {
+    Used x = new Used();
+    x.fixed(0, 2);
+    x.file(0, "abcd");
+    Due.same(x.agree(0, 0, 1), 0);
+    Due.same(x.agree(0, 1, 0), 0);
+    Due.same(x.agree(0, 1, 2), 0);
+    Due.same(x.agree(0, 1, 1), 0);
+  }
+
+  @Sentence("Promise 14: NONE when there are none such.")
+  static void agreeNoneSuch() {
+    Used x = new Used();
     x.fixed(2, 4);
-    int[][] wrong = {{-1, 0, 0}, {0, 0, 0}, {6, 0, 0}, {MIN, 0, 0}, {MAX, 0, 0}, {2, -1, 0}, {2, 8, 0}, {2, MAX, 0},
-        {2, 0, -1}, {2, 0, 8}, {2, 0, MIN}};
-    for (int[] w : wrong) {
-      Due.same("agree(" + w[0] + ", " + w[1] + ", " + w[2] + ")", x.agree(w[0], w[1], w[2]), -1);
-      Due.same("sent(" + w[0] + ", " + w[1] + ", " + w[2] + ")", x.sent(w[0], w[1], w[2]), -1);
+    for (int r : NO_RULES) {
+      Due.same(x.agree(r, 0, 0), -1);
     }
-    for (int r : new int[] {-1, 0, 6, MIN, MAX}) {
-      Due.same("cost(" + r + ", 255)", x.cost(r, 255), -1);
+    for (int f : NO_FILES) {
+      Due.same(x.agree(2, f, 0), -1);
+      Due.same(x.agree(2, 0, f), -1);
+      Due.same(x.agree(2, f, f), -1);
     }
   }
 
-  private static void cost() {
-    CutStore x = new CutStore();
-    x.fixed(0, 2);
-    Due.file(x, 0, "ababcd");
-    Due.file(x, 1, "cdefe");
-    Due.file(x, 7, "ef");
-    Due.same("no file", x.cost(0, 0), 0);
-    Due.same("file 0", x.cost(0, 1), 4 + 2 * 8 + 3 * 2);
-    Due.same("file 1", x.cost(0, 2), 5 + 3 * 8 + 3 * 2);
-    Due.same("both", x.cost(0, 3), 7 + 4 * 8 + 6 * 2);
-    Due.same("file 7", x.cost(0, 128), 2 + 8 + 2);
-    Due.same("all", x.cost(0, 255), 7 + 4 * 8 + 7 * 2);
-    Due.same("all, by -1", x.cost(0, -1), 7 + 4 * 8 + 7 * 2);
-    Due.same("other bits are not looked at", x.cost(0, 256), 0);
-    Due.same("other bits are not looked at", x.cost(0, MIN | 1), 26);
-    Due.same("empty files", x.cost(0, 4 + 8 + 16), 0);
-    x.keep(0, 0);
-    Due.same("THE STORE does not matter", x.cost(0, 1), 26);
-    Due.same("THE STORE stays", x.count(0), 2);
-    x.cost(0, 255);
-    Due.same("no MEETINGS come", x.count(4), 0);
-    x.prices(100, 0);
-    Due.same("ENTRY 100", x.cost(0, 1), 4 + 200);
-    x.prices(0, 100);
-    Due.same("POINTER 100", x.cost(0, 1), 4 + 300);
-    Due.file(x, 0, "zz");
-    Due.same("as they are", x.cost(0, 1), 2 + 100);
-  }
-
-  /** More pieces than THE STORE could hold: what the ROOM would be is told all the same. */
-  private static void costOfMany() {
-    CutStore x = new CutStore();
-    for (int f = 0; f < 8; f++) {
-      byte[] bytes = new byte[600];
-      for (int i = 0; i < 300; i++) {
-        int value = f * 300 + i;
-        bytes[2 * i] = (byte) (value >> 8);
-        bytes[2 * i + 1] = (byte) value;
-      }
-      Due.file(x, f, bytes);
-    }
-    x.fixed(0, 2);
-    Due.same("2400 pieces, no two alike", x.cost(0, 255), 4800 + 2400 * 8 + 2400 * 2);
-    Due.same("600 pieces", x.cost(0, 3), 1200 + 600 * 8 + 600 * 2);
+  @Sentence("Promise 15: How many bytes the PIECES of FILE g by a RULE have (each such piece once) that FILE f has not")
+  static void sent() {
+    Used x = new Used();
+    x.told(0, 1, 200, ',');
+    x.file(0, "a,b,c,");
+    x.file(7, "a,xx,b,xx,yyy,c");
+    Due.same(x.sent(0, 0, 7), 3 + 4 + 1);
+    Due.same(x.sent(0, 7, 0), 2);
     x.fixed(1, 1);
-    Due.same("4800 numbers", x.cost(1, 255), 256 + 256 * 8 + 4800 * 2);
-    x.fixed(2, 200);
-    Due.same("24 pieces", x.cost(2, 255), 4800 + 24 * 8 + 24 * 2);
-    Due.same("best", x.best(255), 2);
+    x.file(2, "abcabcabc");
+    x.file(3, "cbddd");
+    Due.same(x.sent(1, 2, 3), 1);
+    Due.same(x.sent(1, 3, 2), 1);
   }
 
-  private static void best() {
-    CutStore x = new CutStore();
-    Due.same("without rules", x.best(255), -1);
-    Due.file(x, 0, "aaaaaaaa");
+  @Sentence("Promise 15: that FILE f has not among its own (all or none of them)")
+  static void sentAllOrNone() {
+    Used x = new Used();
+    x.fixed(0, 2);
+    x.file(0, "abcdab");
+    x.file(1, "efgh");
+    Due.same(x.sent(0, 0, 0), 0);
+    Due.same(x.sent(0, 0, 1), 4);
+    Due.same(x.sent(0, 1, 0), 4);
+    Due.same(x.sent(0, 2, 0), 4);
+    Due.same(x.sent(0, 0, 2), 0);
+    Due.same(x.sent(0, 2, 2), 0);
+    x.words(3, 1000, 300);
+    Due.same(x.sent(0, 0, 3), 600);
+    x.words(4, 1001, 300);
+    Due.same(x.sent(0, 3, 4), 2);
+  }
+
+  @Sentence("Promise 15: NONE likewise.")
+  static void sentNoneSuch() {
+    Used x = new Used();
+    x.fixed(2, 4);
+    for (int r : NO_RULES) {
+      Due.same(x.sent(r, 0, 0), -1);
+    }
+    for (int f : NO_FILES) {
+      Due.same(x.sent(2, f, 0), -1);
+      Due.same(x.sent(2, 0, f), -1);
+      Due.same(x.sent(2, f, f), -1);
+    }
+  }
+
+  @Sentence("Terms II: COST of a RULE for some FILES, as they are: what the ROOM would be if just these were KEPT by it")
+  static void cost() {
+    Used x = new Used();
+    x.fixed(0, 2);
+    x.file(0, "ababcd");
+    x.file(1, "cdefe");
+    x.file(7, "ef");
+    Due.same(x.cost(0, 1), 4 + 2 * 8 + 3 * 2);
+    Due.same(x.cost(0, 2), 5 + 3 * 8 + 3 * 2);
+    Due.same(x.cost(0, 3), 7 + 4 * 8 + 6 * 2);
+    Due.same(x.cost(0, 128), 2 + 8 + 2);
+    Due.same(x.cost(0, 255), 7 + 4 * 8 + 7 * 2);
+    x.prices(100, 0);
+    Due.same(x.cost(0, 1), 4 + 200);
+    x.prices(0, 100);
+    Due.same(x.cost(0, 1), 4 + 300);
+    x.file(0, "zz");
+    Due.same(x.cost(0, 1), 2 + 100);
+  }
+
+  @Sentence("Terms II: in an empty STORE")
+  static void costInAnEmptyStore() {
+    Used x = new Used();
+    x.fixed(0, 2);
+    x.file(0, "abca");
+    x.file(1, "abca");
+    x.keep(0, 0);
+    int met = x.count(4);
+    Due.same(met, 1);
+    Due.same(x.cost(0, 1), 4 + 2 * 8 + 2 * 2);
+    Due.same(x.cost(0, 2), 4 + 2 * 8 + 2 * 2);
+    Due.same(x.best(3), 0);
+    x.dueStore(2, 4, 2, 1);
+    Due.same(x.count(4), met);
+  }
+
+  @Sentence("Promise 16: for the FILES that bits 0 to 7 tell")
+  static void costOfEachFile() {
+    Used x = new Used();
+    x.fixed(5, 200);
+    x.prices(0, 0);
+    for (int f = 0; f < 8; f++) {
+      x.file(f, "abcdefgh".substring(f));
+    }
+    for (int f = 0; f < 8; f++) {
+      Due.same(x.cost(5, 1 << f), 8 - f);
+    }
+    Due.same(x.cost(5, 129), 9);
+    Due.same(x.cost(5, 255), 36);
+  }
+
+  @Sentence("Promise 16: for the FILES that bits 0 to 7 tell (none of them, or none with bytes)")
+  static void costOfNone() {
+    Used x = new Used();
+    x.fixed(0, 2);
+    x.file(0, "ab");
+    Due.same(x.cost(0, 0), 0);
+    Due.same(x.cost(0, 254), 0);
+    Due.same(x.cost(0, 255), 2 + 8 + 2);
+  }
+
+  @Sentence("Promise 16: (other bits are not looked at)")
+  static void costOtherBits() {
+    Used x = new Used();
+    x.fixed(0, 2);
+    x.file(0, "ab");
+    x.file(7, "cd");
+    Due.same(x.cost(0, 256), 0);
+    Due.same(x.cost(0, MIN), 0);
+    Due.same(x.cost(0, ~255), 0);
+    Due.same(x.cost(0, 257), 12);
+    Due.same(x.cost(0, MIN | 128), 12);
+    Due.same(x.cost(0, -1), 24);
+    Due.same(x.cost(0, MAX), 24);
+  }
+
+  @Sentence("Promise 16: COST of a RULE (with more PIECES than THE STORE can have: no limit of COST is told)")
+  static void costOfMany() {
+    Used x = new Used();
+    for (int f = 0; f < 8; f++) {
+      x.words(f, f * 300, 300);
+    }
+    x.fixed(0, 2);
+    Due.same(x.cost(0, 1), 600 + 300 * 8 + 300 * 2);
+    Due.same(x.cost(0, 3), 1200 + 600 * 8 + 600 * 2);
+    Due.same(x.cost(0, 255), 4800 + 2400 * 8 + 2400 * 2);
+    x.fixed(1, 1);
+    Due.same(x.cost(1, 255), 256 + 256 * 8 + 4800 * 2);
+    x.fixed(2, 200);
+    Due.same(x.cost(2, 255), 4800 + 24 * 8 + 24 * 2);
+    Due.same(x.best(255), 2);
+    x.prices(100, 100);
+    Due.same(x.cost(0, 255), 4800 + 2400 * 100 + 2400 * 100);
+    Due.same(x.cost(1, 255), 256 + 256 * 100 + 4800 * 100);
+  }
+
+  @Sentence("Promise 16: NONE when there is no such RULE.")
+  static void costNoSuchRule() {
+    Used x = new Used();
+    x.fixed(2, 4);
+    for (int r : NO_RULES) {
+      Due.same(x.cost(r, 255), -1);
+      Due.same(x.cost(r, 0), -1);
+    }
+  }
+
+  @Sentence("Promise 17: The RULE of the least COST for some FILES")
+  static void best() {
+    Used x = new Used();
+    x.file(0, "aaaaaaaa");
+    x.file(7, "abcdefgh");
     x.fixed(5, 8);
-    Due.same("just one", x.best(1), 5);
+    Due.same(x.best(1), 5);
     x.fixed(3, 4);
-    Due.same("costs 18 and 16", x.cost(5, 1) * 100 + x.cost(3, 1), 1816);
-    Due.same("the least", x.best(1), 3);
-    x.fixed(4, 4);
-    Due.same("of several the least number", x.best(1), 3);
-    x.fixed(1, 4);
-    Due.same("of several the least number", x.best(1), 1);
-    Due.same("for no files all cost 0", x.best(0), 1);
+    Due.same(x.cost(5, 1), 8 + 8 + 2);
+    Due.same(x.cost(3, 1), 4 + 8 + 4);
+    Due.same(x.best(1), 3);
+    Due.same(x.best(128), 5);
     x.prices(8, 100);
-    Due.same("by other prices", x.best(1), 5);
-    Due.same("other bits are not looked at", x.best(256), 1);
+    Due.same(x.best(1), 5);
+    x.prices(0, 0);
+    x.fixed(0, 1);
+    Due.same(x.best(1), 0);
+  }
+
+  @Sentence("Promise 17: (of several the least number)")
+  static void bestOfSeveral() {
+    Used x = new Used();
+    x.file(0, "aaaaaaaa");
+    x.fixed(5, 4);
+    x.fixed(4, 4);
+    Due.same(x.best(1), 4);
+    x.fixed(1, 4);
+    Due.same(x.best(1), 1);
+    x.fixed(0, 8);
+    Due.same(x.best(1), 1);
+    Due.same(x.best(0), 0);
+    Due.same(x.best(256), 0);
+    Due.same(x.best(MIN | 1), 1);
+  }
+
+  @Sentence("Promise 17: NONE without RULES.")
+  static void bestWithoutRules() {
+    Used x = new Used();
+    x.file(0, "abc");
+    Due.same(x.best(1), -1);
+    Due.same(x.best(0), -1);
+    Due.same(x.best(-1), -1);
+    x.fixed(0, 201);
+    Due.same(x.best(1), -1);
+    x.fixed(5, 200);
+    Due.same(x.best(0), 5);
   }
 }

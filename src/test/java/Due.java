@@ -1,101 +1,103 @@
-import java.nio.charset.StandardCharsets;
+import java.lang.reflect.InvocationTargetException;
+import java.lang.reflect.Method;
+import java.util.Arrays;
 
-/** Holds answers against those that are due, and helps tests to lay out FILES. */
+/** Runs the tests of a class, and holds answers against those that are due. */
 final class Due {
+  private static final long MOST_MILLIS = 300_000;
+
   private static int asked = 0;
   private static int wrong = 0;
+  private static String sentence = "";
+  private static String callName = "";
+  private static int[] callNumbers = {};
 
   private Due() {
   }
 
-  static void same(String call, long got, long want) {
-    asked++;
-    if (got != want) {
-      wrong++;
-      System.out.println(call + " answered " + got + ", due is " + want);
+  /** Runs every test that names a sentence; ends with exit code 1 if an answer was wrong. */
+  static void run(Class<?> tests) throws IllegalAccessException {
+    watch();
+    int count = 0;
+    for (Method test : tests.getDeclaredMethods()) {
+      if (test.isAnnotationPresent(Sentence.class)) {
+        runOne(test);
+        count++;
+      }
+    }
+    close(count);
+  }
+
+  private static void runOne(Method test) throws IllegalAccessException {
+    sentence = test.getName() + " [" + test.getAnnotation(Sentence.class).value() + "]";
+    int askedBefore = asked;
+    try {
+      test.invoke(null);
+    } catch (InvocationTargetException e) {
+      fault("threw " + e.getCause());
+    }
+    if (asked == askedBefore) {
+      fault("nothing was asked");
     }
   }
 
-  static void yes(String call, boolean got) {
-    same(call, got ? 1 : 0, 1);
+  /** A call that does not end must not hold up the tests for ever. */
+  private static void watch() {
+    Thread watcher = new Thread(() -> {
+      try {
+        Thread.sleep(MOST_MILLIS);
+      } catch (InterruptedException e) {
+        return;
+      }
+      System.out.println(sentence + ": " + call() + " does not end");
+      Runtime.getRuntime().halt(1);
+    });
+    watcher.setDaemon(true);
+    watcher.start();
   }
 
-  static void no(String call, boolean got) {
-    same(call, got ? 1 : 0, 0);
-  }
-
-  /** Ends the test: with exit code 1 if an answer was wrong. */
-  static void close() {
-    System.out.println(asked + " answers asked, " + wrong + " wrong");
+  private static void close(int tests) {
+    System.out.println(tests + " tests, " + asked + " answers asked, " + wrong + " wrong");
     if (wrong != 0 || asked == 0) {
       System.exit(1);
     }
   }
 
-  /** A new FILE f of these bytes, by feed, end and edit. */
-  static void file(CutStore x, int f, byte[] bytes) {
-    int length = 0;
-    while (x.at(f, length) != CutStore.NONE) {
-      length++;
-    }
-    x.end(0);
-    x.edit(f, 0, length);
-    for (int from = 0; from < bytes.length; from += 400) {
-      int n = Math.min(400, bytes.length - from);
-      for (int i = 0; i < n; i += 20) {
-        x.feed(word(bytes, from + i), word(bytes, from + i + 4), word(bytes, from + i + 8),
-            word(bytes, from + i + 12), word(bytes, from + i + 16));
-      }
-      x.end(n);
-      same("edit of a test's file", x.edit(f, from, 0), from + n);
+  /** The call whose answer comes next. */
+  static void calling(String name, int... numbers) {
+    callName = name;
+    callNumbers = numbers;
+  }
+
+  private static String call() {
+    String numbers = Arrays.toString(callNumbers);
+    return callName + "(" + numbers.substring(1, numbers.length() - 1) + ")";
+  }
+
+  static void same(long got, long want) {
+    asked++;
+    if (got != want) {
+      fault(call() + " answered " + got + ", due is " + want);
     }
   }
 
-  static void file(CutStore x, int f, String text) {
-    file(x, f, text.getBytes(StandardCharsets.ISO_8859_1));
+  static void yes(boolean got) {
+    same(got ? 1 : 0, 1);
   }
 
-  /** The bytes of FILE f, as text. */
-  static String text(CutStore x, int f) {
-    StringBuilder text = new StringBuilder();
-    for (int i = 0; x.at(f, i) != CutStore.NONE; i++) {
-      text.append((char) x.at(f, i));
-    }
-    return text.toString();
+  static void no(boolean got) {
+    same(got ? 1 : 0, 0);
   }
 
-  static void text(String call, CutStore x, int f, String want) {
-    String got = text(x, f);
+  static void text(String got, String want) {
+    asked++;
     if (!got.equals(want)) {
-      System.out.println(call + ": the file is '" + got + "', due is '" + want + "'");
+      fault("the file is '" + got + "', due is '" + want + "'");
     }
-    same(call + ": the file is as due", got.equals(want) ? 1 : 0, 1);
   }
 
-  /** Where the pieces begin, and the length at last. */
-  static void begins(String call, CutStore x, int r, int f, int... want) {
-    same(call + ": cuts", x.cuts(r, f), want.length - 1);
-    for (int k = 0; k < want.length; k++) {
-      same(call + ": cut " + k, x.cut(r, f, k), want[k]);
-    }
-    same(call + ": cut behind the last", x.cut(r, f, want.length), -1);
-    same(call + ": cut ahead of the first", x.cut(r, f, -1), -1);
-  }
-
-  /** What is KEPT of FILE f. */
-  static void numbers(String call, CutStore x, int f, int... want) {
-    for (int k = 0; k < want.length; k++) {
-      same(call + ": number " + k, x.number(f, k), want[k]);
-    }
-    same(call + ": number behind the last", x.number(f, want.length), -1);
-    same(call + ": number ahead of the first", x.number(f, -1), -1);
-  }
-
-  private static int word(byte[] bytes, int from) {
-    int word = 0;
-    for (int i = from; i < from + 4; i++) {
-      word = word << 8 | (i < bytes.length ? bytes[i] & 255 : 0);
-    }
-    return word;
+  static void fault(String what) {
+    wrong++;
+    System.out.println(sentence + ": " + what);
   }
 }

