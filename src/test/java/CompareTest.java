@@ -2,8 +2,6 @@
 public final class CompareTest {
   private static final int MIN = Integer.MIN_VALUE;
   private static final int MAX = Integer.MAX_VALUE;
-  private static final int[] NO_RULES = {-1, 0, 6, 256, MIN, MAX};
-  private static final int[] NO_FILES = {-1, 8, 256, MIN, MAX};
 
   public static void main(String[] args) throws IllegalAccessException {
     Due.run(CompareTest.class);
@@ -63,10 +61,11 @@ public final class CompareTest {
   static void agreeNoneSuch() {
     Used x = new Used();
     x.fixed(2, 4);
-    for (int r : NO_RULES) {
+    for (int r : Used.NO_RULES) {
       Due.same(x.agree(r, 0, 0), -1);
     }
-    for (int f : NO_FILES) {
+    Due.same(x.agree(0, 0, 0), -1);
+    for (int f : Used.NO_FILES) {
       Due.same(x.agree(2, f, 0), -1);
       Due.same(x.agree(2, 0, f), -1);
       Due.same(x.agree(2, f, f), -1);
@@ -110,10 +109,11 @@ public final class CompareTest {
   static void sentNoneSuch() {
     Used x = new Used();
     x.fixed(2, 4);
-    for (int r : NO_RULES) {
+    for (int r : Used.NO_RULES) {
       Due.same(x.sent(r, 0, 0), -1);
     }
-    for (int f : NO_FILES) {
+    Due.same(x.sent(0, 0, 0), -1);
+    for (int f : Used.NO_FILES) {
       Due.same(x.sent(2, f, 0), -1);
       Due.same(x.sent(2, 0, f), -1);
       Due.same(x.sent(2, f, f), -1);
@@ -220,10 +220,12 @@ public final class CompareTest {
   static void costNoSuchRule() {
     Used x = new Used();
     x.fixed(2, 4);
-    for (int r : NO_RULES) {
+    for (int r : Used.NO_RULES) {
       Due.same(x.cost(r, 255), -1);
       Due.same(x.cost(r, 0), -1);
     }
+    Due.same(x.cost(0, 255), -1);
+    Due.same(x.cost(0, 0), -1);
   }
 
   @Sentence("Promise 17: The RULE of the least COST for some FILES")

@@ -48,6 +48,18 @@ public final class CutsTest {
     Due.same(x.sum(0, 0, 4), 256 + 31 * 4 + 961 * 3);
   }
 
+  @Sentence("Terms I: from the latest one on: each and 1, times 31, 31 times 31, .. (the latest one times 1)")
+  static void sumFromTheLatest() {
+    Used x = new Used();
+    x.rolling(0, false, 1, 200, 3, 0, 0);
+    x.file(0, "\u0001\u0000\u0000\u0000\u0000");
+    Due.same(x.sum(0, 0, 0), 2);
+    Due.same(x.sum(0, 0, 1), 1 + 31 * 2);
+    Due.same(x.sum(0, 0, 2), 1 + 31 + 961 * 2);
+    Due.same(x.sum(0, 0, 3), 1 + 31 + 961);
+    Due.same(x.sum(0, 0, 4), 1 + 31 + 961);
+  }
+
   @Sentence("Terms I: window (1 .. 16) (the least and the most)")
   static void sumByTheEdgesOfTheWindow() {
     Used x = new Used();

@@ -55,6 +55,7 @@ public final class FaceTest {
     for (Method m : CutStore.class.getDeclaredMethods()) {
       Due.calling("the method " + m.getName());
       Due.no(Modifier.isPrivate(m.getModifiers()) && open.contains(m.getName()));
+      Due.no(m.getName().startsWith("lambda$"));
     }
   }
 

@@ -2,7 +2,6 @@
 public final class FilesTest {
   private static final int MIN = Integer.MIN_VALUE;
   private static final int MAX = Integer.MAX_VALUE;
-  private static final int[] NO_FILES = {-1, 8, 256, MIN, MAX};
   private static final int ZZZZ = 0x7a7a7a7a;
 
   public static void main(String[] args) throws IllegalAccessException {
@@ -272,11 +271,25 @@ public final class FilesTest {
     Due.same(x.at(0, 0), 'z');
   }
 
+  @Sentence("Promise 4: how many bytes it has")
+  static void editTellsTheLength() {
+    Used x = new Used();
+    x.tape("a".repeat(400));
+    Due.same(x.edit(0, 0, 0), 400);
+    x.tape("b".repeat(200));
+    Due.same(x.edit(0, 400, 0), 600);
+    Due.same(x.edit(0, 0, 0), 600);
+    Due.same(x.edit(0, 600, 0), 600);
+    Due.same(x.edit(0, 0, 599), 1);
+    x.dueText(0, "b");
+    Due.same(x.edit(0, 0, 1), 0);
+  }
+
   @Sentence("Promise 4: -1 no such FILE")
   static void editNoSuchFile() {
     Used x = new Used();
     x.tape("XY");
-    for (int f : NO_FILES) {
+    for (int f : Used.NO_FILES) {
       Due.same(x.edit(f, 0, 0), -1);
     }
     for (int f = 0; f < 8; f++) {
@@ -397,6 +410,16 @@ public final class FilesTest {
     x.dueText(0, "ab");
   }
 
+  @Sentence("Promise 5: how many there are")
+  static void sowTellsTheLength() {
+    Used x = new Used();
+    x.file(0, "abc");
+    Due.same(x.sow(0, 1, 1, 1), 4);
+    Due.same(x.sow(0, 200, 1, 1), 204);
+    Due.same(x.sow(1, 200, 1, 1), 200);
+    Due.same(x.edit(0, 0, 0), 204);
+  }
+
   @Sentence("Promise 5: for each g becomes 1103515245 g + 12345 (an int, it wraps; seed at first)")
   static void sowWraps() {
     int[] seeds = {1, 0, -1, MAX, MIN, 7};
@@ -441,7 +464,7 @@ public final class FilesTest {
   @Sentence("Promise 5: NONE, doing nothing, when something can't be")
   static void sowNoSuchFile() {
     Used x = new Used();
-    for (int f : NO_FILES) {
+    for (int f : Used.NO_FILES) {
       Due.same(x.sow(f, 1, 1, 1), -1);
     }
     for (int f = 0; f < 8; f++) {
@@ -510,7 +533,7 @@ public final class FilesTest {
     Used x = new Used();
     x.file(0, "abc");
     x.file(7, "xyz");
-    for (int f : NO_FILES) {
+    for (int f : Used.NO_FILES) {
       Due.same(x.copy(f, 0), -1);
       Due.same(x.copy(0, f), -1);
       Due.same(x.copy(f, f), -1);
@@ -556,7 +579,7 @@ public final class FilesTest {
       Due.same(x.at(2, i), -1);
     }
     Due.same(x.at(1, 0), -1);
-    for (int f : NO_FILES) {
+    for (int f : Used.NO_FILES) {
       Due.same(x.at(f, 0), -1);
     }
   }

@@ -209,13 +209,7 @@ public final class PiecesTest {
   @Sentence("Terms II: HOLDS (as many as there can be)")
   static void holdsOfAllFiles() {
     Used x = new Used();
-    x.fixed(0, 1);
-    x.file(0, "a".repeat(600));
-    x.keep(0, 0);
-    for (int f = 1; f < 8; f++) {
-      x.copy(0, f);
-      x.keep(0, f);
-    }
+    x.keepAllFullOf("a");
     Due.same(x.piece(1, 1), 4800);
     x.dueStore(1, 1, 4800, 8);
     x.prices(100, 100);
@@ -358,7 +352,7 @@ public final class PiecesTest {
     }
   }
 
-  @Sentence("Terms II: ROOM of THE STORE: the bytes of all PIECES, ENTRY for each PIECE, POINTER for each number KEPT.")
+  @Sentence("Terms II: ROOM of THE STORE: the bytes of all PIECES, ENTRY")
   static void room() {
     Used x = new Used();
     x.fixed(0, 3);

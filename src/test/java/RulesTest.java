@@ -2,8 +2,6 @@
 public final class RulesTest {
   private static final int MIN = Integer.MIN_VALUE;
   private static final int MAX = Integer.MAX_VALUE;
-  private static final int[] NO_RULES = {-1, 6, 256, MIN, MAX};
-  private static final int[] NO_FILES = {-1, 8, 256, MIN, MAX};
 
   public static void main(String[] args) throws IllegalAccessException {
     Due.run(RulesTest.class);
@@ -36,7 +34,7 @@ public final class RulesTest {
   @Sentence("Promise 8: false when that can't be. (No such RULE)")
   static void fixedNoSuchRule() {
     Used x = new Used();
-    for (int r : NO_RULES) {
+    for (int r : Used.NO_RULES) {
       Due.no(x.fixed(r, 3));
     }
     Due.same(x.best(255), -1);
@@ -84,7 +82,7 @@ public final class RulesTest {
   @Sentence("Promise 9: false when that can't be. (No such RULE)")
   static void rollingNoSuchRule() {
     Used x = new Used();
-    for (int r : NO_RULES) {
+    for (int r : Used.NO_RULES) {
       rollingRefused(x, r, 1, 4, 1, 0, 0);
     }
     Due.same(x.best(255), -1);
@@ -165,7 +163,7 @@ public final class RulesTest {
   @Sentence("Promise 10: false when that can't be. (No such RULE)")
   static void toldNoSuchRule() {
     Used x = new Used();
-    for (int r : NO_RULES) {
+    for (int r : Used.NO_RULES) {
       Due.no(x.told(r, 1, 4, 0));
     }
     Due.same(x.best(255), -1);
@@ -234,7 +232,7 @@ public final class RulesTest {
   static void sumNoSuchFile() {
     Used x = new Used();
     x.rolling(0, false, 1, 200, 2, 0, 0);
-    for (int f : NO_FILES) {
+    for (int f : Used.NO_FILES) {
       Due.same(x.sum(0, f, 0), -1);
     }
   }
@@ -243,7 +241,7 @@ public final class RulesTest {
   static void sumNoSuchRule() {
     Used x = new Used();
     x.file(0, "abcd");
-    for (int r : NO_RULES) {
+    for (int r : Used.NO_RULES) {
       Due.same(x.sum(r, 0, 0), -1);
     }
     Due.same(x.sum(0, 0, 0), -1);
@@ -280,11 +278,11 @@ public final class RulesTest {
     Used x = new Used();
     x.fixed(1, 2);
     x.file(0, "abcd");
-    for (int r : NO_RULES) {
+    for (int r : Used.NO_RULES) {
       Due.same(x.cuts(r, 0), -1);
     }
     Due.same(x.cuts(0, 0), -1);
-    for (int f : NO_FILES) {
+    for (int f : Used.NO_FILES) {
       Due.same(x.cuts(1, f), -1);
     }
   }
@@ -326,11 +324,11 @@ public final class RulesTest {
     Used x = new Used();
     x.fixed(1, 2);
     x.file(0, "abcd");
-    for (int r : NO_RULES) {
+    for (int r : Used.NO_RULES) {
       Due.same(x.cut(r, 0, 0), -1);
     }
     Due.same(x.cut(0, 0, 0), -1);
-    for (int f : NO_FILES) {
+    for (int f : Used.NO_FILES) {
       Due.same(x.cut(1, f, 0), -1);
     }
   }

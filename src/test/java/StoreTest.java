@@ -2,14 +2,12 @@
 public final class StoreTest {
   private static final int MIN = Integer.MIN_VALUE;
   private static final int MAX = Integer.MAX_VALUE;
-  private static final int[] NO_RULES = {-1, 0, 6, 256, MIN, MAX};
-  private static final int[] NO_FILES = {-1, 8, 256, MIN, MAX};
 
   public static void main(String[] args) throws IllegalAccessException {
     Due.run(StoreTest.class);
   }
 
-  @Sentence("Promise 18: A FILE is KEPT by a RULE, as it is: how many new PIECES")
+  @Sentence("Promise 18: how many new PIECES")
   static void keep() {
     Used x = new Used();
     x.fixed(0, 2);
@@ -93,7 +91,7 @@ public final class StoreTest {
   static void keepNoSuchFile() {
     Used x = new Used();
     x.fixed(1, 2);
-    for (int f : NO_FILES) {
+    for (int f : Used.NO_FILES) {
       Due.same(x.keep(1, f), -1);
     }
     x.dueStore(0, 0, 0, 0);
@@ -106,10 +104,12 @@ public final class StoreTest {
     x.file(0, "abc");
     x.keep(1, 0);
     x.file(0, "xyz");
-    for (int r : NO_RULES) {
+    for (int r : Used.NO_RULES) {
       Due.same(x.keep(r, 0), -1);
       Due.same(x.keep(r, 1), -1);
     }
+    Due.same(x.keep(0, 0), -1);
+    Due.same(x.keep(0, 1), -1);
     x.dueStore(2, 3, 2, 1);
     x.dueNumbers(0, 1, 2);
   }
@@ -290,7 +290,7 @@ public final class StoreTest {
     x.fixed(0, 1);
     x.file(0, "ab");
     x.keep(0, 0);
-    for (int f : NO_FILES) {
+    for (int f : Used.NO_FILES) {
       Due.same(x.drop(f), -1);
     }
     x.dueStore(2, 2, 2, 1);
@@ -383,7 +383,7 @@ public final class StoreTest {
     x.fixed(0, 1);
     x.file(0, "abc");
     x.keep(0, 0);
-    for (int f : NO_FILES) {
+    for (int f : Used.NO_FILES) {
       Due.same(x.bring(f), -1);
     }
   }
@@ -435,7 +435,7 @@ public final class StoreTest {
     x.keep(0, 0);
     x.drop(0);
     Due.same(x.jumps(0), -1);
-    for (int f : NO_FILES) {
+    for (int f : Used.NO_FILES) {
       Due.same(x.jumps(f), -1);
     }
   }
@@ -484,7 +484,7 @@ public final class StoreTest {
     x.drop(0);
     Due.same(x.number(0, 0), -1);
     Due.same(x.number(0, -1), -1);
-    for (int f : NO_FILES) {
+    for (int f : Used.NO_FILES) {
       Due.same(x.number(f, 0), -1);
     }
   }

@@ -44,7 +44,7 @@ public final class SupersTest {
     x.duePairs(1, 2, 2);
   }
 
-  @Sentence("Terms III: All that is KEPT, FILE by FILE, as rows of numbers (of all eight)")
+  @Sentence("Terms III: all that is KEPT, FILE by FILE, as rows of numbers (of all eight)")
   static void allFiles() {
     Used x = kept("ab", "b", "c", "d", "e", "f", "g", "ab");
     Due.same(x.supers(), 8 + 2);
@@ -57,7 +57,7 @@ public final class SupersTest {
     x.duePairs();
   }
 
-  @Sentence("Terms III: As long as a pair of numbers side by side is there twice or more")
+  @Sentence("Terms III: As long as a pair of numbers side by side (within a row) is there twice or more")
   static void twiceOrMore() {
     Used x = kept("abcd");
     Due.same(x.supers(), 4);
@@ -259,13 +259,7 @@ public final class SupersTest {
   @Sentence("Promise 26: SUPERS are made of all that is KEPT (all FILES full, of one number)")
   static void fullOfOne() {
     Used x = new Used();
-    x.fixed(0, 1);
-    x.file(0, "a".repeat(600));
-    x.keep(0, 0);
-    for (int f = 1; f < 8; f++) {
-      x.copy(0, f);
-      x.keep(0, f);
-    }
+    x.keepAllFullOf("a");
     // 600 = 256 + 256 + 64 + 16 + 8: 1001 stands for 2 of them, .. 1008 for 256; then each row is
     // 1008 1008 1006 1004 1003, and its pairs stand in all eight rows.
     Due.same(x.supers(), 8 + 2 * 12);
@@ -310,6 +304,7 @@ public final class SupersTest {
     x.supers();
     x.duePairs(1, 2, 2, 3, 4, 2);
     x.drop(0);
+    x.keep(0, 2);
     x.duePairs(1, 2, 2, 3, 4, 2);
     x.supers();
     x.duePairs(3, 4, 2);

@@ -2,6 +2,8 @@ import java.nio.charset.StandardCharsets;
 
 /** A CutStore in use: tells its latest call, keeps to the calls that are promised, and lays out FILES. */
 final class Used {
+  static final int[] NO_FILES = {-1, 8, 256, Integer.MIN_VALUE, Integer.MAX_VALUE};
+  static final int[] NO_RULES = {-1, 6, 256, Integer.MIN_VALUE, Integer.MAX_VALUE};
   private static final int MOST_CALLS = 512;
 
   private final CutStore store = new CutStore();
@@ -151,6 +153,17 @@ final class Used {
     file(f, "");
     for (int n = 200; n <= 600; n += 200) {
       Due.same(sow(f, 200, n + f, 256), n);
+    }
+  }
+
+  /** All FILES are full of one character, and KEPT by RULE 0, which cuts behind each. */
+  void keepAllFullOf(String character) {
+    fixed(0, 1);
+    file(0, character.repeat(600));
+    keep(0, 0);
+    for (int f = 1; f < 8; f++) {
+      Due.same(copy(0, f), 600);
+      keep(0, f);
     }
   }
 
