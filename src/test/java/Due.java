@@ -34,7 +34,7 @@ final class Due {
     try {
       test.invoke(null);
     } catch (InvocationTargetException e) {
-      fault("threw " + e.getCause());
+      threw(e.getCause());
     }
     if (asked == askedBefore) {
       fault("nothing was asked");
@@ -92,8 +92,12 @@ final class Due {
   static void text(String got, String want) {
     asked++;
     if (!got.equals(want)) {
-      fault("the file is '" + got + "', due is '" + want + "'");
+      fault(call() + " gives '" + got + "', due is '" + want + "'");
     }
+  }
+
+  static void threw(Throwable thrown) {
+    fault(call() + " threw " + thrown);
   }
 
   static void fault(String what) {

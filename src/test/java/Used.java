@@ -193,6 +193,7 @@ final class Used {
         got.append((char) b);
       }
     }
+    Due.calling("the text of FILE", f);
     Due.text(got.toString(), want);
   }
 
